@@ -14,6 +14,10 @@ public final class CharstringPress {
     private static final int AHEAD_MOST = 8;
     private static final int KEY_MOST = 65535;
     private static final int LETTERS_MOST = 40;
+
+    /** Of Type 1; an INDEX may have more. */
+    private static final int LOCALS_MOST = 200;
+
     private static final int LIMIT_MOST = 400;
     private static final int PILE_MOST_CFF = 48;
     private static final int PILE_MOST_TYPE_ONE = 24;
@@ -346,16 +350,27 @@ public final class CharstringPress {
         }
     }
 
-    /** Where each program of one sort begins and ends in the font's bytes. */
+    /**
+     * Where each program of one sort begins and ends in the font's bytes: told one by one, or by the
+     * offsets of an INDEX, which are looked up there (so that an object needs no room for them).
+     */
     private static final class Shelf {
+        private final Octets store;
         private final int[] begins;
         private final int[] finishes;
         private int length;
+        private int offsetsAt;
 
-        Shelf(int most) {
-            begins = new int[most];
-            finishes = new int[most];
+        /** 0 where the programs are told one by one. */
+        private int offsetBytes;
+
+        Shelf(Octets theStore, int mostOneByOne) {
+            store = theStore;
+            begins = new int[mostOneByOne];
+            finishes = new int[mostOneByOne];
             length = 0;
+            offsetsAt = 0;
+            offsetBytes = 0;
         }
 
         int size() {
@@ -370,10 +385,17 @@ public final class CharstringPress {
         void lay(int n) {
             length = Math.max(0, Math.min(n, begins.length));
             Arrays.fill(begins, 0, length, NONE);
+            offsetBytes = 0;
+        }
+
+        void layIndex(int n, int at, int bytes) {
+            length = n;
+            offsetsAt = at;
+            offsetBytes = bytes;
         }
 
         void put(int k, int begin, int finish) {
-            if (k >= 0 && k < length) {
+            if (k >= 0 && k < length && k < begins.length) {
                 begins[k] = begin;
                 finishes[k] = finish;
             }
@@ -387,15 +409,32 @@ public final class CharstringPress {
         }
 
         boolean has(long k) {
-            return k >= 0 && k < length && begins[(int) k] != NONE;
+            if (k < 0 || k >= length) {
+                return false;
+            }
+            return offsetBytes > 0 || k < begins.length && begins[(int) k] != NONE;
         }
 
         int beginOf(int k) {
-            return has(k) ? begins[k] : 0;
+            if (!has(k)) {
+                return 0;
+            }
+            return offsetBytes > 0 ? objectAt(k) : begins[k];
         }
 
         int finishOf(int k) {
-            return has(k) ? finishes[k] : 0;
+            if (!has(k)) {
+                return 0;
+            }
+            return offsetBytes > 0 ? objectAt(k + 1) : finishes[k];
+        }
+
+        private int objectAt(int k) {
+            int offset = 0;
+            for (int i = 0; i < offsetBytes; i++) {
+                offset = offset * 256 + store.get(offsetsAt + k * offsetBytes + i);
+            }
+            return offsetsAt + (length + 1) * offsetBytes + offset - 1;
         }
     }
 
@@ -411,9 +450,9 @@ public final class CharstringPress {
 
         Font() {
             store = new Octets(TAPE_MOST);
-            letters = new Shelf(LETTERS_MOST);
-            locals = new Shelf(TAPE_MOST);
-            globals = new Shelf(TAPE_MOST);
+            letters = new Shelf(store, LETTERS_MOST);
+            locals = new Shelf(store, LOCALS_MOST);
+            globals = new Shelf(store, 0);
             family = NONE;
             defaultWidth = 0;
             nominalWidth = 0;
@@ -573,6 +612,7 @@ public final class CharstringPress {
         private int indexCount;
         private int offsetBytes;
         private long offsetsAt;
+        private long objectsAt;
 
         CffReader() {
             dict = new Dict();
@@ -590,8 +630,8 @@ public final class CharstringPress {
             takeHeader();
             takeIndex(1, 1);
             takeIndex(1, 1);
-            long topFrom = objectAt(0);
-            long topTo = objectAt(1);
+            long topFrom = objectsAt;
+            long topTo = place;
             takeIndex(0, INDEX_MOST);
             takeIndex(0, INDEX_MOST);
             shelve(font.globals);
@@ -668,31 +708,17 @@ public final class CharstringPress {
                 want(offset >= ahead && (k > 0 || offset == 1));
                 ahead = offset;
             }
+            objectsAt = place;
             place += ahead - 1;
             if (place > store.size()) {
                 wrong(BEYOND);
             }
         }
 
-        /** Where the k-th object of the INDEX that was taken last begins; one more tells the end. */
-        private long objectAt(int k) {
-            if (fault != 0 || k < 0 || k > indexCount || indexCount == 0) {
-                return 0;
-            }
-            long offset = 0;
-            for (int i = 0; i < offsetBytes; i++) {
-                offset = offset * 256 + store.get(offsetsAt + (long) k * offsetBytes + i);
-            }
-            return offsetsAt + (indexCount + 1L) * offsetBytes + offset - 1;
-        }
-
+        /** The programs of the INDEX that was taken last. */
         private void shelve(Shelf shelf) {
-            if (fault != 0) {
-                return;
-            }
-            shelf.lay(indexCount);
-            for (int k = 0; k < indexCount; k++) {
-                shelf.put(k, (int) objectAt(k), (int) objectAt(k + 1));
+            if (fault == 0 && indexCount > 0) {
+                shelf.layIndex(indexCount, (int) offsetsAt, offsetBytes);
             }
         }
 
@@ -776,7 +802,6 @@ public final class CharstringPress {
         private static final int PROGRAM_KEY = 4330;
         private static final int TEXT_AHEAD = 4;
         private static final int COUNT_BOUND = 10000;
-        private static final int LOCALS_MOST = 200;
 
         private Font font;
         private Octets store;
@@ -1162,7 +1187,9 @@ public final class CharstringPress {
         }
 
         void drop(int n) {
-            length = Math.max(0, length - Math.max(0, n));
+            if (n > 0) {
+                length = n < length ? length - n : 0;
+            }
         }
 
         int push(long number) {
