@@ -223,12 +223,12 @@ public final class CharstringPress {
         return first >= 247 ? 1 : 0;
     }
 
-    /** The whole number that a first byte and those behind it tell. */
+    /** The whole number that a first byte (none of 255) and those behind it tell. */
     private static int wholeNumber(int first, int behind) {
         if (first == 28) {
             return (short) behind;
         }
-        if (first == 29 || first == 255) {
+        if (first == 29) {
             return behind;
         }
         if (first <= 246) {
@@ -1122,7 +1122,6 @@ public final class CharstringPress {
         }
 
         int close() {
-            open = false;
             return add(CLOSE);
         }
 

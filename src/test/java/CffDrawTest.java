@@ -135,6 +135,8 @@ public final class CffDrawTest {
     private static void hints() {
         came("1 2 3 4 hstem 1 2 vstem endchar", "fault 0 parts 0 steps 3 hints 3 bytes 9 width 300");
         came("1 2 hstemhm 1 2 3 4 hintmask #ff endchar", "fault 0 parts 0 steps 3 hints 3 bytes 10 width 300");
+        came("7 1 2 3 4 hstem endchar", "fault 0 parts 0 steps 2 hints 2 bytes 7 width 607");
+        came("7 1 2 hintmask #00 endchar", "fault 0 parts 0 steps 2 hints 1 bytes 6 width 607");
         came("hintmask endchar", "fault 0 parts 0 steps 2 hints 0 bytes 2 width 300");
         String eight = "1 2 3 4 5 6 7 8 1 2 3 4 5 6 7 8 hstem ";
         came(eight + "cntrmask #0e endchar", "fault 0 parts 0 steps 3 hints 8 bytes 20 width 300");
@@ -173,6 +175,14 @@ public final class CffDrawTest {
 
     private static void sum(String program, String want) {
         outline(program + " hlineto", "L " + want + " 0");
+        // What is below stays as it is.
+        outline("0 0 2 0 " + program + " hlineto", "L 0 0 L 0 0 L 2 0 L 2 0 L " + plusTwo(want) + " 0");
+    }
+
+    private static String plusTwo(String told) {
+        int plus = told.indexOf('+');
+        String whole = plus < 0 ? told : told.substring(0, plus);
+        return (Integer.parseInt(whole) + 2) + (plus < 0 ? "" : told.substring(plus));
     }
 
     private static void arithmetic() {
@@ -209,8 +219,10 @@ public final class CffDrawTest {
         sum("#ff00000001 not", "0");
         sum("3 0 and", "0");
         sum("3 -2 and", "1");
+        sum("0 3 and", "0");
         sum("0 0 and", "0");
         sum("3 0 or", "1");
+        sum("0 3 or", "1");
         sum("0 0 or", "0");
         sum("1 2 3 4 ifelse", "1");
         sum("1 2 4 4 ifelse", "1");
@@ -223,6 +235,8 @@ public final class CffDrawTest {
     private static void stackOperators() {
         outline("1 2 drop hlineto", "L 1 0");
         outline("1 2 exch hlineto", "L 2 0 L 2 1");
+        outline("9 1 2 exch hlineto", "L 9 0 L 9 2 L 10 2");
+        outline("9 8 1 put hlineto", "L 9 0");
         outline("5 dup hlineto", "L 5 0 L 5 5");
         outline("7 3 put 3 get 3 get hlineto", "L 7 0 L 7 7");
         outline("7 31 put 31.9 get 0 get hlineto", "L 7 0 L 7 0");
@@ -439,6 +453,7 @@ public final class CffDrawTest {
         Kit.due("x", press.at(0, 0, 0), 65536);
         Kit.due("y", press.at(0, 0, 1), 2 * 65536);
         Kit.due("way 2", press.at(0, 0, 2), 0);
+        Kit.due("way 2 of a curve", press.at(2, 0, 2), 0);
         Kit.due("way -1", press.at(0, 0, -1), 0);
         Kit.due("point 1 of a move", press.at(0, 1, 0), 0);
         Kit.due("point 1 of a line", press.at(1, 1, 0), 0);
@@ -461,5 +476,10 @@ public final class CffDrawTest {
         Kit.due("its outline too", Kit.outline(press), "M 1 2 L 4 6 C 5 8 8 12 13 18 Z");
         Kit.due("a letter of the new font", Kit.came(press, press.draw(0, 9)), "fault 0 parts 0 steps 2 hints 0 bytes 4 width 2");
         Kit.due("no part of the old one", press.part(0), NONE);
+        press = of(CffFont.of("1 2 3 4 5 6 rrcurveto 1 2 3 4 5 6 rrcurveto endchar", "1 hmoveto 2 hlineto endchar"));
+        press.draw(0, 9);
+        press.draw(1, 9);
+        Kit.due("no point of a curve that was there", press.at(0, 1, 0), 0);
+        Kit.due("no point of a curve that was there", press.at(1, 1, 1), 0);
     }
 }

@@ -11,6 +11,7 @@ public final class CffReadTest {
     public static void main(String[] args) {
         ordinary();
         readIsOnce();
+        fontsInTurn();
         header();
         indexes();
         topFaults();
@@ -111,6 +112,33 @@ public final class CffReadTest {
         Kit.due("the font stays", press.font(0), 1);
     }
 
+    /** Fonts of both families one behind the other: nothing of an earlier one is left. */
+    private static void fontsInTurn() {
+        CharstringPress press = new CharstringPress();
+        byte[] rich = CffFont.of("endchar", "7 endchar").widths(5, 6).local("return").global("return").build();
+        byte[] poor = fontWith();
+        TypeOneFont font = new TypeOneFont().words("/Subrs 2 array ").local(1, "3 return");
+        byte[] typeOne = font.begin().letter("a", "8 endchar").letter("b", "9 endchar").words("end").build();
+        byte[] plain = TypeOneFont.of("endchar").build();
+        int[] turns = {0, 0, 2, 2, 1, 1, 3, 3, 0, 2, 1, 3, 2, 0, 3, 1, 2, 3, 0, 1};
+        String[] answers = {"0 2 1 1 5 6", "0 1 0 0 0 0", "1 2 2 0 0 0", "1 1 0 0 0 0"};
+        String[] codes = {"0e|920e|0b||0b|", "0e|||||", "930e|940e||8e0b||", "0e|||||"};
+        byte[][] fonts = {rich, poor, typeOne, plain};
+        for (int turn : turns) {
+            Kit.due("read", Kit.read(press, turn / 2, fonts[turn]), 0);
+            StringBuilder told = new StringBuilder().append(press.font(0));
+            for (int what = 1; what <= 5; what++) {
+                told.append(' ').append(press.font(what));
+            }
+            Kit.due("font " + turn, told.toString(), answers[turn]);
+            StringBuilder code = new StringBuilder();
+            for (int i = 0; i < 6; i++) {
+                code.append(Kit.code(press, i / 2, i % 2)).append(i < 5 ? "|" : "");
+            }
+            Kit.due("its code", code.toString(), codes[turn]);
+        }
+    }
+
     private static void header() {
         Kit.due("the least font", Kit.fault(0, least()), 0);
         for (int n = 0; n < 42; n++) {
@@ -122,6 +150,8 @@ public final class CffReadTest {
         Kit.due("a header of 3", Kit.fault(0, with(least(), 2, 3)), 2);
         Kit.due("a header of 200", Kit.fault(0, with(least(), 2, 200)), 1);
         Kit.due("a header of 200, offsets of 0", Kit.fault(0, with(with(least(), 2, 200), 3, 0)), 2);
+        Kit.due("a header of 1, all else as told from there", Kit.fault(0, Kit.join(Kit.bytes(1, 0, 1, 1, 1, 2, 'A'),
+                Kit.bytes(0, 1, 1, 1, 7), CffFont.long29(22), Kit.bytes(17, 0, 0, 0, 0, 0, 1, 1, 1, 2, 14))), 2);
         Kit.due("offsets of 0", Kit.fault(0, with(least(), 3, 0)), 2);
         Kit.due("offsets of 5", Kit.fault(0, with(least(), 3, 5)), 2);
         Kit.due("offsets of 4", Kit.fault(0, with(least(), 3, 4)), 0);
@@ -138,6 +168,10 @@ public final class CffReadTest {
         Kit.due("257 names", Kit.fault(0, with(least(), 4, 1)), 2);
         Kit.due("offset size 0", Kit.fault(0, with(least(), 6, 0)), 2);
         Kit.due("offset size 5", Kit.fault(0, with(least(), 6, 5)), 2);
+        Kit.due("offset size 5, all else as told", Kit.fault(0, Kit.join(cut(fontWith(), 25),
+                Kit.bytes(0, 1, 5, 0, 0, 0, 0, 1, 0, 0, 0, 0, 2, 14))), 2);
+        Kit.due("offset size 4", Kit.fault(0, Kit.join(cut(fontWith(), 25),
+                Kit.bytes(0, 1, 4, 0, 0, 0, 1, 0, 0, 0, 2, 14))), 0);
         Kit.due("the first offset 2", Kit.fault(0, with(least(), 7, 2)), 2);
         Kit.due("the first offset 0", Kit.fault(0, with(least(), 7, 0)), 2);
         Kit.due("an offset less", Kit.fault(0, with(least(), 8, 0)), 2);
@@ -172,6 +206,9 @@ public final class CffReadTest {
         Kit.due("17 with two", Kit.fault(0, font(Kit.bytes(160, 160, 17))), 2);
         Kit.due("17 by a short one", Kit.fault(0, font(Kit.bytes(139 + 21, 17))), 0);
         Kit.due("17 by a real", Kit.fault(0, font(Kit.bytes(30, 0x2f, 17))), 2);
+        Kit.due("17 by a real and a right one", Kit.fault(0, font(Kit.bytes(30, 0x2f, 139 + 24, 17))), 2);
+        Kit.due("17 by a right one and a real", Kit.fault(0, font(Kit.bytes(139 + 24, 30, 0x2f, 17))), 2);
+        Kit.due("a real at the end", Kit.fault(0, font(Kit.bytes(139 + 23, 17, 30, 0x2f))), 2);
         Kit.due("17 told wrong, then right", Kit.fault(0, fontWith(139, 139, 17)), 0);
         Kit.due("17 told right, then wrong", Kit.fault(0, font(Kit.bytes(139 + 22, 17, 17))), 2);
         Kit.due("17 told twice: the last", Kit.fault(0, fontWith(28, 39, 15, 17)), 0);
@@ -198,6 +235,7 @@ public final class CffReadTest {
         int[] reserved = {22, 23, 24, 25, 26, 27, 31, 255};
         for (int b : reserved) {
             Kit.due("byte " + b + " in a DICT", Kit.fault(0, fontWith(b)), 2);
+            Kit.due("byte " + b + " in a DICT", Kit.fault(0, fontWith(b, 0, 0, 0, 0, 0)), 2);
         }
         Kit.due("a number beyond the DICT", Kit.fault(0, font(Kit.bytes(161, 17, 28, 0))), 2);
         Kit.due("a number beyond the DICT", Kit.fault(0, font(Kit.bytes(161, 17, 29))), 2);
@@ -217,6 +255,13 @@ public final class CffReadTest {
         java.util.Arrays.fill(more, 139);
         more[49] = 16;
         Kit.due("49 operands", Kit.fault(0, fontWith(more)), 2);
+        int[] reals = new int[99];
+        for (int i = 0; i < 98; i += 2) {
+            reals[i] = 30;
+            reals[i + 1] = 0xff;
+        }
+        Kit.due("49 reals", Kit.fault(0, fontWith(reals)), 2);
+        Kit.due("48 reals", Kit.fault(0, fontWith(java.util.Arrays.copyOfRange(reals, 2, 99))), 0);
         widths("32", 32 - 139, 32);
         widths("246", 107, 246);
         widths("247", 108, 247, 0);
@@ -271,7 +316,8 @@ public final class CffReadTest {
         Kit.due("default by two", Kit.fault(0, fontWithPrivate(3, 139, 139, 20)), 2);
         Kit.due("default by none", Kit.fault(0, fontWithPrivate(1, 20)), 2);
         Kit.due("nominal by a real", Kit.fault(0, fontWithPrivate(3, 30, 0x1f, 21)), 2);
-        Kit.due("locals by two", Kit.fault(0, fontWithPrivate(3, 139, 139, 19)), 2);
+        Kit.due("locals by two", Kit.fault(0, fontWithPrivate(3, 142, 139, 19, 0, 0)), 2);
+        Kit.due("locals by one", Kit.fault(0, fontWithPrivate(2, 141, 19, 0, 0)), 0);
         Kit.due("default told wrong, then right", Kit.fault(0, fontWithPrivate(3, 20, 139, 20)), 0);
         Kit.due("17 in it is none", Kit.fault(0, fontWithPrivate(2, 17, 18)), 0);
         Kit.due("fewer than no bytes", Kit.fault(0, fontWithPrivate(-1)), 2);
@@ -279,6 +325,8 @@ public final class CffReadTest {
         Kit.due("a place beyond", Kit.fault(0, font(top)), 1);
         top = Kit.join(CffFont.long29(36), Kit.bytes(17), CffFont.long29(0), CffFont.long29(-1), Kit.bytes(18));
         Kit.due("a place below 0", Kit.fault(0, font(top)), 1);
+        top = Kit.join(CffFont.long29(36), Kit.bytes(17), CffFont.long29(0), CffFont.long29(0), Kit.bytes(18));
+        Kit.due("none at the first place", Kit.fault(0, font(top)), 0);
         top = Kit.join(CffFont.long29(36), Kit.bytes(17), CffFont.long29(5), CffFont.long29(9999), Kit.bytes(18));
         Kit.due("a place far beyond", Kit.fault(0, font(top)), 1);
         top = Kit.join(CffFont.long29(36), Kit.bytes(17), CffFont.long29(Integer.MAX_VALUE), CffFont.long29(41),

@@ -61,6 +61,8 @@ public final class TypeOneReadTest {
         Kit.due("fewer than four bytes of digits", Kit.fault(1, Kit.ascii("eexec 012345")), 1);
         Kit.due("four digits, then another", Kit.fault(1, Kit.ascii("eexec abcdg")), 2);
         Kit.due("five digits", Kit.fault(1, Kit.ascii("eexec abcde")), 2);
+        byte[] open = Kit.ascii("/CharStrings 1 dict dup begin /a 1 RD z ND ");
+        Kit.due("nothing behind the last digit", Kit.fault(1, Kit.join(head, TypeOneFont.digits(open))), 1);
         Kit.due("a blank ahead: as they stand", Kit.fault(1, Kit.join(head, Kit.ascii(" "), told)), 1);
     }
 
@@ -74,6 +76,7 @@ public final class TypeOneReadTest {
         Kit.due("the first eexec with a blank", Kit.fault(1, Kit.join(Kit.ascii("eexeceexec!eeexec "), body)), 0);
         Kit.due("the first eexec counts", Kit.fault(1, Kit.join(Kit.ascii("eexec eexec "), body)), 1);
         Kit.due("no eexec", Kit.fault(1, Kit.ascii("exec eexe")), 1);
+        Kit.due("no eexec, but a word like it", Kit.fault(1, Kit.join(Kit.ascii("fexec eexed eexeC "), body)), 1);
         Kit.due("eexec at the end", Kit.fault(1, Kit.ascii("eexec")), 1);
         Kit.due("nothing behind", Kit.fault(1, Kit.ascii("eexec ")), 1);
         Kit.due("three bytes behind", Kit.fault(1, Kit.ascii("eexec abc")), 1);
@@ -127,7 +130,12 @@ public final class TypeOneReadTest {
         Kit.due("dup, then dup", fault("/Subrs 1 array dup dup 1 1 RD x"), 2);
         Kit.due("dup and 10000", fault("/Subrs 1 array dup 10000 /CharStrings 0 dict dup begin end"), 3);
         Kit.due("dup ahead of /Subrs", fault("dup 5 /Subrs 1 array /CharStrings 0 dict dup begin end"), 3);
+        Kit.due("dup at once behind a local", fault("/Subrs 2 array dup 0 1 RD xdup 2 1 RD y NP "), 2);
         CharstringPress press = new CharstringPress();
+        Kit.due("a font with locals", Kit.read(press, 1, TypeOneFont.wrap("/Subrs 2 array /CharStrings 1 dict dup begin "
+                + "/a 1 RD z ND end")), 0);
+        Kit.due("dup ahead of /Subrs in the next", Kit.read(press, 1, TypeOneFont.wrap("dup 5 x /CharStrings 1 dict dup "
+                + "begin /a 1 RD z ND end")), 0);
         TypeOneFont font = new TypeOneFont().words("/Subrs 3 array ").local(0, "1 return").local(2, "2 return");
         font.words("/Subrs 2 array ").local(1, "3 return").begin().letter("a", "endchar").words("end ");
         Kit.due("told again", Kit.read(press, 1, font.build()), 0);
@@ -144,6 +152,8 @@ public final class TypeOneReadTest {
         Kit.due("by -|", fault(head + "/a 1 -| z ND end"), 0);
         Kit.due("by another", fault(head + "/a 1 XX z ND end"), 2);
         Kit.due("no name", fault(head + "a 1 RD z ND end"), 2);
+        Kit.due("a word like end", fault(head + "/a 1 RD z ND xnd"), 2);
+        Kit.due("a word like end", fault(head + "/a 1 RD z ND ende"), 2);
         Kit.due("an empty name", fault(head + "/ 1 RD z ND end"), 2);
         Kit.due("no count", fault(head + "/a RD z ND end"), 2);
         Kit.due("no word behind", fault(head + "/a 1 RD z end"), 1);
