@@ -1706,45 +1706,50 @@ public final class CharstringPress {
         }
 
         /** How many of the lowest NUMBERS are the WIDTH's: 1 if there is one more, the first time. */
-        private int askWidth(boolean oneMore) {
+        private int widthsShare(boolean oneMore) {
+            return oneMore && !widthAsked ? 1 : 0;
+        }
+
+        /** Asked behind the count's own test: a wrong count tells no WIDTH, nor DEFAULT for it. */
+        private void tellWidth(int share) {
             if (widthAsked) {
-                return 0;
+                return;
             }
             widthAsked = true;
-            if (!oneMore) {
-                width = font.defaultWidth * ONE;
-                return 0;
-            }
-            width = font.nominalWidth * ONE + pile.get(0);
-            return 1;
+            width = share == 1 ? font.nominalWidth * ONE + pile.get(0) : font.defaultWidth * ONE;
         }
 
         private int stems() {
             int n = pile.size();
-            int paired = n - askWidth(n % 2 == 1 && n > 1);
+            int share = widthsShare(n % 2 == 1);
+            int paired = n - share;
             if (paired < 2 || paired % 2 == 1) {
                 return WRONG_COUNT;
             }
+            tellWidth(share);
             hints += paired / 2;
             return 0;
         }
 
         private int mask() {
             int n = pile.size();
-            int paired = n - askWidth(n % 2 == 1);
+            int share = widthsShare(n % 2 == 1);
+            int paired = n - share;
             if (paired % 2 == 1) {
                 return WRONG_COUNT;
             }
+            tellWidth(share);
             hints += paired / 2;
             return skipBytes((hints + 7) / 8) ? 0 : BYTES_END;
         }
 
         private int move(int operator) {
             int wanted = operator == 21 ? 2 : 1;
-            int from = askWidth(pile.size() == wanted + 1);
+            int from = widthsShare(pile.size() == wanted + 1);
             if (pile.size() - from != wanted) {
                 return WRONG_COUNT;
             }
+            tellWidth(from);
             int fault = outline.closeIfOpen();
             if (fault != 0) {
                 return fault;
@@ -1761,9 +1766,11 @@ public final class CharstringPress {
         }
 
         private int endLetter() {
-            if (pile.size() - askWidth(pile.size() == 1) != 0) {
+            int share = widthsShare(pile.size() == 1);
+            if (pile.size() != share) {
                 return WRONG_COUNT;
             }
+            tellWidth(share);
             int fault = outline.closeIfOpen();
             if (fault == 0) {
                 finishAll();

@@ -11,6 +11,7 @@ public final class CffDrawTest {
         flexes();
         moves();
         widths();
+        widthsOfWrongCounts();
         hints();
         numbers();
         arithmetic();
@@ -132,6 +133,50 @@ public final class CffDrawTest {
         Kit.due("0 ahead of any", press.width(), 0);
     }
 
+    /** A wrong count tells no WIDTH: not DEFAULT for it, nor the lowest NUMBER and NOMINAL. */
+    private static void widthsOfWrongCounts() {
+        for (String stems : new String[] {"hstem", "vstem", "hstemhm", "vstemhm"}) {
+            widthTold(stems, 0, 0);
+            widthTold(stems, 1, 0);
+            widthTold(stems, 2, 300);
+            widthTold(stems, 3, 601);
+        }
+        for (String mask : new String[] {"hintmask #00", "cntrmask #00"}) {
+            widthTold(mask, 2, 300);
+            widthTold(mask, 3, 601);
+        }
+        int[][] moves = {{0, 0, 300, 601, 0, 0}, {0, 300, 601, 0, 0, 0}, {0, 300, 601, 0, 0, 0},
+            {300, 601, 0, 0, 0, 0}};
+        String[] names = {"rmoveto", "hmoveto", "vmoveto", "endchar"};
+        for (int k = 0; k < names.length; k++) {
+            for (int n = 0; n < moves[k].length; n++) {
+                widthTold(names[k], n, moves[k][n]);
+            }
+        }
+        came("1 hintmask", "fault 7 parts 0 steps 1 hints 0 bytes 2 width 601");
+        came("1 2 hintmask", "fault 7 parts 0 steps 0 hints 1 bytes 3 width 300");
+        came("1 2 3 hintmask", "fault 7 parts 0 steps 0 hints 1 bytes 4 width 601");
+        came("1 2 hstem 1 2 3 4 rmoveto", "fault 2 parts 0 steps 1 hints 1 bytes 8 width 300");
+        came("9 1 2 hstem 1 2 3 rmoveto", "fault 2 parts 0 steps 1 hints 1 bytes 8 width 609");
+        CharstringPress press = of(CffFont.of("1 2 rmoveto", "9 1 2 rmoveto").widths(300, 600));
+        Kit.due("the count is right, the LIMIT is not", press.draw(0, 0), 6);
+        Kit.due("its width", press.width(), 300 * 65536L);
+        Kit.due("the count is right, the LIMIT is not", press.draw(1, 0), 6);
+        Kit.due("its width", press.width(), 609 * 65536L);
+        press = of(CffFont.of("9 endchar", "hstem").widths(300, 600));
+        press.draw(0, 0);
+        Kit.due("the draw ahead of it", press.width(), 609 * 65536L);
+        press.draw(1, 0);
+        Kit.due("nothing stays of the draw ahead of it", press.width(), 0);
+    }
+
+    private static void widthTold(String operator, int numbers, int want) {
+        String program = "1 ".repeat(numbers) + operator;
+        CharstringPress press = of(CffFont.of(program).widths(300, 600));
+        press.draw(0, 400);
+        Kit.due("width of " + program, press.width(), want * 65536L);
+    }
+
     private static void hints() {
         came("1 2 3 4 hstem 1 2 vstem endchar", "fault 0 parts 0 steps 3 hints 3 bytes 9 width 300");
         came("1 2 hstemhm 1 2 3 4 hintmask #ff endchar", "fault 0 parts 0 steps 3 hints 3 bytes 10 width 300");
@@ -145,8 +190,8 @@ public final class CffDrawTest {
         came("1 2 hstem hintmask", "fault 7 parts 0 steps 1 hints 1 bytes 4 width 300");
         came("1 2 hstem hintmask #00", "fault 7 parts 0 steps 2 hints 1 bytes 5 width 300");
         came("1 2 hstem 1 hintmask #00", "fault 2 parts 0 steps 1 hints 1 bytes 5 width 300");
-        came("1 hstem", "fault 2 parts 0 steps 0 hints 0 bytes 2 width 300");
-        came("hstem", "fault 2 parts 0 steps 0 hints 0 bytes 1 width 300");
+        came("1 hstem", "fault 2 parts 0 steps 0 hints 0 bytes 2 width 0");
+        came("hstem", "fault 2 parts 0 steps 0 hints 0 bytes 1 width 0");
         came("1 2 hstem 1 2 3 vstem", "fault 2 parts 0 steps 1 hints 1 bytes 7 width 300");
     }
 
@@ -229,7 +274,7 @@ public final class CffDrawTest {
         sum("1 2 4 3 ifelse", "2");
         came("1 0 div", "fault 9 parts 0 steps 0 hints 0 bytes 4 width 0");
         came("-1 sqrt", "fault 9 parts 0 steps 0 hints 0 bytes 3 width 0");
-        came("#12 1 2 3 #0c17", "fault 2 parts 0 steps 0 hints 0 bytes 1 width 300");
+        came("#12 1 2 3 #0c17", "fault 2 parts 0 steps 0 hints 0 bytes 1 width 0");
     }
 
     private static void stackOperators() {
@@ -264,7 +309,7 @@ public final class CffDrawTest {
         came("1 -1 1 roll", "fault 9 parts 0 steps 0 hints 0 bytes 5 width 0");
         String full = "1 ".repeat(48);
         came(full + "dup", "fault 3 parts 0 steps 0 hints 0 bytes 50 width 0");
-        came(full + "index endchar", "fault 2 parts 0 steps 1 hints 0 bytes 51 width 300");
+        came(full + "index endchar", "fault 2 parts 0 steps 1 hints 0 bytes 51 width 0");
         CharstringPress press = of(CffFont.of("7 0 put endchar", "0 get hmoveto endchar"));
         press.draw(0, 9);
         press.draw(1, 9);
@@ -284,7 +329,7 @@ public final class CffDrawTest {
         Kit.due("one within 10 others", Kit.came(press, press.draw(2, 9)), "fault 5 parts 0 steps 10 hints 0 bytes 2 width 0");
         Kit.due("one without return", Kit.came(press, press.draw(3, 9)), "fault 7 parts 0 steps 1 hints 0 bytes 1 width 0");
         Kit.due("locals within", Kit.came(press, press.draw(4, 9)), "fault 5 parts 0 steps 10 hints 0 bytes 2 width 0");
-        Kit.due("cut towards less", Kit.came(press, press.draw(5, 9)), "fault 2 parts 0 steps 1 hints 0 bytes 1 width 1");
+        Kit.due("cut towards less", Kit.came(press, press.draw(5, 9)), "fault 2 parts 0 steps 1 hints 0 bytes 1 width 0");
         Kit.due("below the first", Kit.came(press, press.draw(6, 9)), "fault 4 parts 0 steps 0 hints 0 bytes 3 width 0");
         Kit.due("of nothing", Kit.came(press, press.draw(7, 9)), "fault 2 parts 0 steps 0 hints 0 bytes 1 width 0");
         Kit.due("of nothing", Kit.came(press, press.draw(8, 9)), "fault 2 parts 0 steps 0 hints 0 bytes 1 width 0");
@@ -384,9 +429,9 @@ public final class CffDrawTest {
             came("0 " + operator, "fault 2 parts 0 steps 0 hints 0 bytes 3 width 0");
         }
         came("1 2 3 ifelse", "fault 2 parts 0 steps 0 hints 0 bytes 5 width 0");
-        came("1 2 3 4 rmoveto", "fault 2 parts 0 steps 0 hints 0 bytes 5 width 300");
-        came("1 2 endchar", "fault 2 parts 0 steps 0 hints 0 bytes 3 width 300");
-        came("1 2 3 4 endchar", "fault 2 parts 0 steps 0 hints 0 bytes 5 width 300");
+        came("1 2 3 4 rmoveto", "fault 2 parts 0 steps 0 hints 0 bytes 5 width 0");
+        came("1 2 endchar", "fault 2 parts 0 steps 0 hints 0 bytes 3 width 0");
+        came("1 2 3 4 endchar", "fault 2 parts 0 steps 0 hints 0 bytes 5 width 0");
     }
 
     private static void steps() {
