@@ -26,26 +26,12 @@ public final class CffDrawTest {
         Kit.close("CffDrawTest");
     }
 
-    private static CharstringPress of(CffFont font) {
-        CharstringPress press = new CharstringPress();
-        Kit.due("read", Kit.read(press, 0, font.build()), 0);
-        return press;
-    }
-
-    /** The program's outline, with what it came to ahead of it if that is no 0. */
-    private static String drawn(String program) {
-        CharstringPress press = of(CffFont.of(program).widths(300, 600));
-        int fault = press.draw(0, 400);
-        return (fault == 0 ? "" : fault + ": ") + Kit.outline(press);
-    }
-
     private static void outline(String program, String want) {
-        Kit.due(program, drawn(program + " endchar"), want + " Z");
+        Kit.due(program, CffRun.outline(program + " endchar"), want + " Z");
     }
 
     private static void came(String program, String want) {
-        CharstringPress press = of(CffFont.of(program).widths(300, 600));
-        Kit.due(program, Kit.came(press, press.draw(0, 400)), want);
+        Kit.due(program, CffRun.came(program), want);
     }
 
     private static void lines() {
@@ -94,19 +80,19 @@ public final class CffDrawTest {
     }
 
     private static void moves() {
-        Kit.due("a move alone", drawn("1 2 rmoveto endchar"), "M 1 2");
-        Kit.due("moves", drawn("1 hmoveto 2 vmoveto 3 4 rmoveto endchar"), "M 1 0 M 1 2 M 4 6");
-        Kit.due("a move closes", drawn("1 hmoveto 2 hlineto 3 vmoveto endchar"), "M 1 0 L 3 0 Z M 3 3");
-        Kit.due("a line ahead of any move", drawn("2 hlineto 3 vmoveto endchar"), "L 2 0 Z M 2 3");
-        Kit.due("a curve closes", drawn("1 2 3 4 hvcurveto 3 hmoveto 1 hlineto endchar"), "C 1 0 3 3 3 7 Z M 6 7 L 7 7 Z");
-        Kit.due("nothing", drawn("endchar"), "");
+        Kit.due("a move alone", CffRun.outline("1 2 rmoveto endchar"), "M 1 2");
+        Kit.due("moves", CffRun.outline("1 hmoveto 2 vmoveto 3 4 rmoveto endchar"), "M 1 0 M 1 2 M 4 6");
+        Kit.due("a move closes", CffRun.outline("1 hmoveto 2 hlineto 3 vmoveto endchar"), "M 1 0 L 3 0 Z M 3 3");
+        Kit.due("a line ahead of any move", CffRun.outline("2 hlineto 3 vmoveto endchar"), "L 2 0 Z M 2 3");
+        Kit.due("a curve closes", CffRun.outline("1 2 3 4 hvcurveto 3 hmoveto 1 hlineto endchar"), "C 1 0 3 3 3 7 Z M 6 7 L 7 7 Z");
+        Kit.due("nothing", CffRun.outline("endchar"), "");
     }
 
     private static void widths() {
         String[] first = {"10 20 hstem", "10 20 vstem", "10 20 30 40 hstemhm", "10 20 vstemhm", "10 20 hintmask #00",
             "10 20 cntrmask #00", "hintmask", "cntrmask", "1 2 rmoveto", "1 hmoveto", "1 vmoveto"};
         for (String operator : first) {
-            CharstringPress press = of(CffFont.of(operator + " endchar", "7 " + operator + " endchar",
+            CharstringPress press = CffRun.of(CffFont.of(operator + " endchar", "7 " + operator + " endchar",
                     operator + " 7 endchar").widths(300, 600));
             Kit.due("without: " + operator, press.draw(0, 9), 0);
             Kit.due("its width", press.width(), 300 * 65536L);
@@ -121,12 +107,12 @@ public final class CffDrawTest {
         came("1 hlineto 2 hlineto 7 endchar", "fault 0 parts 3 steps 3 hints 0 bytes 6 width 607");
         came("1 hlineto #02", "fault 1 parts 1 steps 1 hints 0 bytes 3 width 0");
         came("1 1 add", "fault 7 parts 0 steps 1 hints 0 bytes 4 width 0");
-        Kit.due("the lowest goes", drawn("9 1 2 rmoveto endchar"), "M 1 2");
-        Kit.due("the lowest goes", drawn("9 1 hmoveto endchar"), "M 1 0");
-        CharstringPress press = of(CffFont.of("1 endchar").widths(Integer.MAX_VALUE, Integer.MAX_VALUE));
+        Kit.due("the lowest goes", CffRun.outline("9 1 2 rmoveto endchar"), "M 1 2");
+        Kit.due("the lowest goes", CffRun.outline("9 1 hmoveto endchar"), "M 1 0");
+        CharstringPress press = CffRun.of(CffFont.of("1 endchar").widths(Integer.MAX_VALUE, Integer.MAX_VALUE));
         press.draw(0, 0);
         Kit.due("a width of 64 bits", press.width(), (Integer.MAX_VALUE + 1L) * 65536L);
-        press = of(CffFont.of("1 2 hstem 3 hmoveto endchar", "#02").widths(5, 6));
+        press = CffRun.of(CffFont.of("1 2 hstem 3 hmoveto endchar", "#02").widths(5, 6));
         press.draw(0, 0);
         Kit.due("the width stays where it can't go on", press.width(), 5 * 65536L);
         press.draw(1, 0);
@@ -158,12 +144,12 @@ public final class CffDrawTest {
         came("1 2 3 hintmask", "fault 7 parts 0 steps 0 hints 1 bytes 4 width 601");
         came("1 2 hstem 1 2 3 4 rmoveto", "fault 2 parts 0 steps 1 hints 1 bytes 8 width 300");
         came("9 1 2 hstem 1 2 3 rmoveto", "fault 2 parts 0 steps 1 hints 1 bytes 8 width 609");
-        CharstringPress press = of(CffFont.of("1 2 rmoveto", "9 1 2 rmoveto").widths(300, 600));
+        CharstringPress press = CffRun.of(CffFont.of("1 2 rmoveto", "9 1 2 rmoveto").widths(300, 600));
         Kit.due("the count is right, the LIMIT is not", press.draw(0, 0), 6);
         Kit.due("its width", press.width(), 300 * 65536L);
         Kit.due("the count is right, the LIMIT is not", press.draw(1, 0), 6);
         Kit.due("its width", press.width(), 609 * 65536L);
-        press = of(CffFont.of("9 endchar", "hstem").widths(300, 600));
+        press = CffRun.of(CffFont.of("9 endchar", "hstem").widths(300, 600));
         press.draw(0, 0);
         Kit.due("the draw ahead of it", press.width(), 609 * 65536L);
         press.draw(1, 0);
@@ -172,7 +158,7 @@ public final class CffDrawTest {
 
     private static void widthTold(String operator, int numbers, int want) {
         String program = "1 ".repeat(numbers) + operator;
-        CharstringPress press = of(CffFont.of(program).widths(300, 600));
+        CharstringPress press = CffRun.of(CffFont.of(program).widths(300, 600));
         press.draw(0, 400);
         Kit.due("width of " + program, press.width(), want * 65536L);
     }
@@ -310,7 +296,7 @@ public final class CffDrawTest {
         String full = "1 ".repeat(48);
         came(full + "dup", "fault 3 parts 0 steps 0 hints 0 bytes 50 width 0");
         came(full + "index endchar", "fault 2 parts 0 steps 1 hints 0 bytes 51 width 0");
-        CharstringPress press = of(CffFont.of("7 0 put endchar", "0 get hmoveto endchar"));
+        CharstringPress press = CffRun.of(CffFont.of("7 0 put endchar", "0 get hmoveto endchar"));
         press.draw(0, 9);
         press.draw(1, 9);
         Kit.due("each run has its own places", press.at(0, 0, 0), 0);
@@ -322,7 +308,7 @@ public final class CffDrawTest {
                 "callgsubr", "return", "-105 callgsubr", "5 -103 callsubr");
         font.local("hmoveto return").local("#02").local("1").local("-104 callsubr").local("hmoveto");
         font.global("-107 callgsubr return").global("hmoveto 3 hlineto endchar");
-        CharstringPress press = of(font.widths(1, 2));
+        CharstringPress press = CffRun.of(font.widths(1, 2));
         Kit.due("a local", Kit.came(press, press.draw(0, 9)), "fault 0 parts 3 steps 5 hints 0 bytes 6 width 1");
         Kit.due("its outline", Kit.outline(press), "M 1 0 L 3 0 Z");
         Kit.due("an end in a global", Kit.came(press, press.draw(1, 9)), "fault 0 parts 3 steps 4 hints 0 bytes 4 width 1");
@@ -336,14 +322,14 @@ public final class CffDrawTest {
         Kit.due("return in a letter", Kit.came(press, press.draw(9, 9)), "fault 1 parts 0 steps 0 hints 0 bytes 1 width 0");
         Kit.due("no such global", Kit.came(press, press.draw(10, 9)), "fault 4 parts 0 steps 0 hints 0 bytes 2 width 0");
         Kit.due("a bare end", Kit.came(press, press.draw(11, 9)), "fault 7 parts 1 steps 2 hints 0 bytes 1 width 1");
-        press = of(CffFont.of("1 -107 callsubr"));
+        press = CffRun.of(CffFont.of("1 -107 callsubr"));
         Kit.due("without locals", press.draw(0, 9), 4);
         CffFont chain = CffFont.of("-107 callsubr endchar", "-106 callsubr endchar");
         for (int i = 0; i < 10; i++) {
             chain.local((i - 106) + " callsubr return");
         }
         chain.local("return");
-        press = of(chain);
+        press = CffRun.of(chain);
         Kit.due("11 within another", Kit.came(press, press.draw(0, 9)), "fault 5 parts 0 steps 10 hints 0 bytes 2 width 0");
         Kit.due("10 within another", Kit.came(press, press.draw(1, 9)), "fault 0 parts 0 steps 21 hints 0 bytes 3 width 0");
     }
@@ -390,7 +376,7 @@ public final class CffDrawTest {
     private static void counts(String operator, int from, String let) {
         for (int n = from; n <= 30; n++) {
             String program = "0 hmoveto " + "1 ".repeat(n) + operator;
-            CharstringPress press = of(CffFont.of(program));
+            CharstringPress press = CffRun.of(CffFont.of(program));
             boolean can = (" " + let + " ").contains(" " + n + " ");
             Kit.due(operator + " of " + n, press.draw(0, 400), can ? 7 : 2);
             Kit.due("its steps", press.drawn(1), can ? 2 : 1);
@@ -440,7 +426,7 @@ public final class CffDrawTest {
         String calls = "-107 callsubr ".repeat(29);
         String ahead = calls + "0 " + "neg ".repeat(69);
         int bytes = 29 * 2 + 1 + 69 * 2;
-        CharstringPress press = of(CffFont.of(ahead + "drop endchar", ahead + "neg drop endchar",
+        CharstringPress press = CffRun.of(CffFont.of(ahead + "drop endchar", ahead + "neg drop endchar",
                 ahead + "neg neg #02", ahead + "neg neg 1").local(local));
         Kit.due("3000 steps", Kit.came(press, press.draw(0, 9)),
                 "fault 0 parts 0 steps 3000 hints 0 bytes " + (bytes + 3) + " width 0");
@@ -450,7 +436,7 @@ public final class CffDrawTest {
                 "fault 8 parts 0 steps 3000 hints 0 bytes " + (bytes + 5) + " width 0");
         Kit.due("a number is no step", Kit.came(press, press.draw(3, 9)),
                 "fault 7 parts 0 steps 3000 hints 0 bytes " + (bytes + 5) + " width 0");
-        press = of(CffFont.of(ahead + "neg neg neg", ahead + "neg neg #0c").local(local));
+        press = CffRun.of(CffFont.of(ahead + "neg neg neg", ahead + "neg neg #0c").local(local));
         Kit.due("of two bytes, at its first byte", Kit.came(press, press.draw(0, 9)),
                 "fault 8 parts 0 steps 3000 hints 0 bytes " + (bytes + 5) + " width 0");
         Kit.due("ahead of 7", Kit.came(press, press.draw(1, 9)),
@@ -458,7 +444,7 @@ public final class CffDrawTest {
     }
 
     private static void limits() {
-        CharstringPress press = of(CffFont.of("0 hmoveto 1 2 3 hlineto endchar", "1 hlineto 5 hmoveto endchar",
+        CharstringPress press = CffRun.of(CffFont.of("0 hmoveto 1 2 3 hlineto endchar", "1 hlineto 5 hmoveto endchar",
                 "1 2 3 4 5 6 1 2 3 4 5 6 rrcurveto endchar", "endchar", "1 2 3 4 5 6 7 hflex"));
         for (int limit = 0; limit <= 4; limit++) {
             Kit.due("limit " + limit, press.draw(0, limit), 6);
@@ -478,7 +464,7 @@ public final class CffDrawTest {
         Kit.due("its outline", Kit.outline(press), "C 1 0 3 3 7 3");
         Kit.due("no flex", press.draw(4, 0), 6);
         String many = ("1 ".repeat(48) + "hlineto ").repeat(9);
-        press = of(CffFont.of(many));
+        press = CffRun.of(CffFont.of(many));
         Kit.due("400 parts", press.draw(0, 400), 6);
         Kit.due("are there", press.drawn(0), 400);
         Kit.due("the last", press.part(399), 1);
@@ -487,7 +473,7 @@ public final class CffDrawTest {
     }
 
     private static void answers() {
-        CharstringPress press = of(CffFont.of("1 2 rmoveto 3 4 rlineto 1 2 3 4 5 6 rrcurveto endchar", "#02"));
+        CharstringPress press = CffRun.of(CffFont.of("1 2 rmoveto 3 4 rlineto 1 2 3 4 5 6 rrcurveto endchar", "#02"));
         Kit.due("draw", press.draw(0, 400), 0);
         int[] kinds = {0, 1, 2, 3, NONE};
         for (int i = 0; i < 5; i++) {
@@ -521,7 +507,7 @@ public final class CffDrawTest {
         Kit.due("its outline too", Kit.outline(press), "M 1 2 L 4 6 C 5 8 8 12 13 18 Z");
         Kit.due("a letter of the new font", Kit.came(press, press.draw(0, 9)), "fault 0 parts 0 steps 2 hints 0 bytes 4 width 2");
         Kit.due("no part of the old one", press.part(0), NONE);
-        press = of(CffFont.of("1 2 3 4 5 6 rrcurveto 1 2 3 4 5 6 rrcurveto endchar", "1 hmoveto 2 hlineto endchar"));
+        press = CffRun.of(CffFont.of("1 2 3 4 5 6 rrcurveto 1 2 3 4 5 6 rrcurveto endchar", "1 hmoveto 2 hlineto endchar"));
         press.draw(0, 9);
         press.draw(1, 9);
         Kit.due("no point of a curve that was there", press.at(0, 1, 0), 0);

@@ -58,6 +58,34 @@ final class CffFont {
         return locals.isEmpty() ? font : Kit.join(font, localIndex);
     }
 
+    /** The least font: one letter (endchar), an empty PRIVATE at the end. */
+    static byte[] least() {
+        return withTop(Kit.bytes(29, 0, 0, 0, 36, 17, 29, 0, 0, 0, 0, 29, 0, 0, 0, 42, 18));
+    }
+
+    /** A font with this TOP, empty STRINGS and GLOBALS, and one letter behind them. */
+    static byte[] withTop(byte[] top) {
+        return Kit.join(Kit.bytes(1, 0, 4, 1, 0, 1, 1, 1, 2, 'A', 0, 1, 1, 1, 1 + top.length), top,
+                Kit.bytes(0, 0, 0, 0), Kit.bytes(0, 1, 1, 1, 2, 14));
+    }
+
+    /** Where the letters of withTop(top) are. */
+    private static int lettersAt(byte[] top) {
+        return 15 + top.length + 4;
+    }
+
+    /** A font whose TOP has these bytes, then 17 for the letters. */
+    static byte[] withAhead(int... ahead) {
+        byte[] top = Kit.join(Kit.bytes(ahead), long29(0), Kit.bytes(17));
+        return withTop(Kit.join(Kit.bytes(ahead), long29(lettersAt(top)), Kit.bytes(17)));
+    }
+
+    /** A font whose PRIVATE, at the tape's end, has these bytes, and is told by so many. */
+    static byte[] withPrivate(int told, int... bytes) {
+        byte[] top = Kit.join(long29(38), Kit.bytes(17), long29(told), long29(44), Kit.bytes(18), Kit.bytes(139, 2));
+        return Kit.join(withTop(top), Kit.bytes(bytes));
+    }
+
     static byte[] long29(int n) {
         return Kit.bytes(29, n >> 24, n >> 16, n >> 8, n);
     }

@@ -23,45 +23,6 @@ public final class CffReadTest {
         Kit.close("CffReadTest");
     }
 
-    /** The least font: one letter (endchar), an empty PRIVATE at the end. */
-    private static byte[] least() {
-        return font(Kit.bytes(29, 0, 0, 0, 36, 17, 29, 0, 0, 0, 0, 29, 0, 0, 0, 42, 18));
-    }
-
-    /** A font with this TOP, empty STRINGS and GLOBALS, and one letter behind them. */
-    private static byte[] font(byte[] top) {
-        return Kit.join(Kit.bytes(1, 0, 4, 1, 0, 1, 1, 1, 2, 'A', 0, 1, 1, 1, 1 + top.length), top,
-                Kit.bytes(0, 0, 0, 0), Kit.bytes(0, 1, 1, 1, 2, 14));
-    }
-
-    /** Where the letters of font(top) are. */
-    private static int lettersAt(byte[] top) {
-        return 15 + top.length + 4;
-    }
-
-    /** A font whose TOP has these bytes, then 17 for the letters. */
-    private static byte[] fontWith(int... ahead) {
-        byte[] top = Kit.join(Kit.bytes(ahead), CffFont.long29(0), Kit.bytes(17));
-        return font(Kit.join(Kit.bytes(ahead), CffFont.long29(lettersAt(top)), Kit.bytes(17)));
-    }
-
-    /** A font whose PRIVATE, at the tape's end, has these bytes, and is told by so many. */
-    private static byte[] fontWithPrivate(int told, int... bytes) {
-        byte[] top = Kit.join(CffFont.long29(38), Kit.bytes(17), CffFont.long29(told), CffFont.long29(44),
-                Kit.bytes(18), Kit.bytes(139, 2));
-        return Kit.join(font(top), Kit.bytes(bytes));
-    }
-
-    private static byte[] with(byte[] font, int at, int value) {
-        byte[] changed = font.clone();
-        changed[at] = (byte) value;
-        return changed;
-    }
-
-    private static byte[] cut(byte[] font, int n) {
-        return java.util.Arrays.copyOf(font, n);
-    }
-
     private static void ordinary() {
         CharstringPress press = new CharstringPress();
         CffFont font = CffFont.of("endchar", "1 2 rmoveto endchar", "").widths(500, -70000).string("x").string("yz");
@@ -93,7 +54,7 @@ public final class CffReadTest {
 
     private static void readIsOnce() {
         CharstringPress press = new CharstringPress();
-        Kit.feed(press, least());
+        Kit.feed(press, CffFont.least());
         Kit.due("read(2)", press.read(2), NONE);
         Kit.due("read(-1)", press.read(-1), NONE);
         Kit.due("nothing happened", press.count(0), 42);
@@ -108,7 +69,7 @@ public final class CffReadTest {
         Kit.due("with its bytes", Kit.code(press, 0, 0), "920e");
         Kit.due("a Type 1 font", Kit.read(press, 1, TypeOneFont.of("endchar").build()), 0);
         Kit.due("is there", press.font(0), 1);
-        Kit.due("a font that is refused", Kit.read(press, 0, cut(least(), 41)), 1);
+        Kit.due("a font that is refused", Kit.read(press, 0, Kit.cut(CffFont.least(), 41)), 1);
         Kit.due("the font stays", press.font(0), 1);
     }
 
@@ -116,7 +77,7 @@ public final class CffReadTest {
     private static void fontsInTurn() {
         CharstringPress press = new CharstringPress();
         byte[] rich = CffFont.of("endchar", "7 endchar").widths(5, 6).local("return").global("return").build();
-        byte[] poor = fontWith();
+        byte[] poor = CffFont.withAhead();
         TypeOneFont font = new TypeOneFont().words("/Subrs 2 array ").local(1, "3 return");
         byte[] typeOne = font.begin().letter("a", "8 endchar").letter("b", "9 endchar").words("end").build();
         byte[] plain = TypeOneFont.of("endchar").build();
@@ -140,51 +101,51 @@ public final class CffReadTest {
     }
 
     private static void header() {
-        Kit.due("the least font", Kit.fault(0, least()), 0);
+        Kit.due("the least font", Kit.fault(0, CffFont.least()), 0);
         for (int n = 0; n < 42; n++) {
-            Kit.due("only " + n + " bytes", Kit.fault(0, cut(least(), n)), 1);
+            Kit.due("only " + n + " bytes", Kit.fault(0, Kit.cut(CffFont.least(), n)), 1);
         }
-        Kit.due("version 2", Kit.fault(0, with(least(), 0, 2)), 2);
+        Kit.due("version 2", Kit.fault(0, Kit.with(CffFont.least(), 0, 2)), 2);
         Kit.due("version 0, and no more", Kit.fault(0, Kit.bytes(0)), 2);
-        Kit.due("any second byte", Kit.fault(0, with(least(), 1, 255)), 0);
-        Kit.due("a header of 3", Kit.fault(0, with(least(), 2, 3)), 2);
-        Kit.due("a header of 200", Kit.fault(0, with(least(), 2, 200)), 1);
-        Kit.due("a header of 200, offsets of 0", Kit.fault(0, with(with(least(), 2, 200), 3, 0)), 2);
+        Kit.due("any second byte", Kit.fault(0, Kit.with(CffFont.least(), 1, 255)), 0);
+        Kit.due("a header of 3", Kit.fault(0, Kit.with(CffFont.least(), 2, 3)), 2);
+        Kit.due("a header of 200", Kit.fault(0, Kit.with(CffFont.least(), 2, 200)), 1);
+        Kit.due("a header of 200, offsets of 0", Kit.fault(0, Kit.with(Kit.with(CffFont.least(), 2, 200), 3, 0)), 2);
         Kit.due("a header of 1, all else as told from there", Kit.fault(0, Kit.join(Kit.bytes(1, 0, 1, 1, 1, 2, 'A'),
                 Kit.bytes(0, 1, 1, 1, 7), CffFont.long29(22), Kit.bytes(17, 0, 0, 0, 0, 0, 1, 1, 1, 2, 14))), 2);
-        Kit.due("offsets of 0", Kit.fault(0, with(least(), 3, 0)), 2);
-        Kit.due("offsets of 5", Kit.fault(0, with(least(), 3, 5)), 2);
-        Kit.due("offsets of 4", Kit.fault(0, with(least(), 3, 4)), 0);
-        byte[] longer = Kit.join(Kit.bytes(1, 0, 6, 1, 9, 9), java.util.Arrays.copyOfRange(least(), 4, 42));
+        Kit.due("offsets of 0", Kit.fault(0, Kit.with(CffFont.least(), 3, 0)), 2);
+        Kit.due("offsets of 5", Kit.fault(0, Kit.with(CffFont.least(), 3, 5)), 2);
+        Kit.due("offsets of 4", Kit.fault(0, Kit.with(CffFont.least(), 3, 4)), 0);
+        byte[] longer = Kit.join(Kit.bytes(1, 0, 6, 1, 9, 9), java.util.Arrays.copyOfRange(CffFont.least(), 4, 42));
         longer[21] = 38;
         longer[32] = 44;
         Kit.due("a header of 6", Kit.fault(0, longer), 0);
     }
 
     private static void indexes() {
-        Kit.due("two names", Kit.fault(0, with(least(), 5, 2)), 2);
-        Kit.due("no name", Kit.fault(0, with(least(), 5, 0)), 2);
-        Kit.due("two names, asked ahead of the rest", Kit.fault(0, cut(with(least(), 5, 2), 6)), 2);
-        Kit.due("257 names", Kit.fault(0, with(least(), 4, 1)), 2);
-        Kit.due("offset size 0", Kit.fault(0, with(least(), 6, 0)), 2);
-        Kit.due("offset size 5", Kit.fault(0, with(least(), 6, 5)), 2);
-        Kit.due("offset size 5, all else as told", Kit.fault(0, Kit.join(cut(fontWith(), 25),
+        Kit.due("two names", Kit.fault(0, Kit.with(CffFont.least(), 5, 2)), 2);
+        Kit.due("no name", Kit.fault(0, Kit.with(CffFont.least(), 5, 0)), 2);
+        Kit.due("two names, asked ahead of the rest", Kit.fault(0, Kit.cut(Kit.with(CffFont.least(), 5, 2), 6)), 2);
+        Kit.due("257 names", Kit.fault(0, Kit.with(CffFont.least(), 4, 1)), 2);
+        Kit.due("offset size 0", Kit.fault(0, Kit.with(CffFont.least(), 6, 0)), 2);
+        Kit.due("offset size 5", Kit.fault(0, Kit.with(CffFont.least(), 6, 5)), 2);
+        Kit.due("offset size 5, all else as told", Kit.fault(0, Kit.join(Kit.cut(CffFont.withAhead(), 25),
                 Kit.bytes(0, 1, 5, 0, 0, 0, 0, 1, 0, 0, 0, 0, 2, 14))), 2);
-        Kit.due("offset size 4", Kit.fault(0, Kit.join(cut(fontWith(), 25),
+        Kit.due("offset size 4", Kit.fault(0, Kit.join(Kit.cut(CffFont.withAhead(), 25),
                 Kit.bytes(0, 1, 4, 0, 0, 0, 1, 0, 0, 0, 2, 14))), 0);
-        Kit.due("the first offset 2", Kit.fault(0, with(least(), 7, 2)), 2);
-        Kit.due("the first offset 0", Kit.fault(0, with(least(), 7, 0)), 2);
-        Kit.due("an offset less", Kit.fault(0, with(least(), 8, 0)), 2);
-        Kit.due("an offset beyond", Kit.fault(0, with(least(), 8, 99)), 1);
-        Kit.due("two tops", Kit.fault(0, with(least(), 11, 2)), 2);
-        Kit.due("no top", Kit.fault(0, with(least(), 11, 0)), 2);
-        Kit.due("an object beyond, then one less", Kit.fault(0, Kit.join(cut(least(), 32),
+        Kit.due("the first offset 2", Kit.fault(0, Kit.with(CffFont.least(), 7, 2)), 2);
+        Kit.due("the first offset 0", Kit.fault(0, Kit.with(CffFont.least(), 7, 0)), 2);
+        Kit.due("an offset less", Kit.fault(0, Kit.with(CffFont.least(), 8, 0)), 2);
+        Kit.due("an offset beyond", Kit.fault(0, Kit.with(CffFont.least(), 8, 99)), 1);
+        Kit.due("two tops", Kit.fault(0, Kit.with(CffFont.least(), 11, 2)), 2);
+        Kit.due("no top", Kit.fault(0, Kit.with(CffFont.least(), 11, 0)), 2);
+        Kit.due("an object beyond, then one less", Kit.fault(0, Kit.join(Kit.cut(CffFont.least(), 32),
                 Kit.bytes(0, 2, 1, 1, 200, 3, 0, 0, 0, 0, 0, 0))), 2);
-        Kit.due("an object beyond", Kit.fault(0, Kit.join(cut(least(), 32), Kit.bytes(0, 2, 1, 1, 3, 200, 0, 0))), 1);
-        Kit.due("offsets of four bytes, above 31 bits", Kit.fault(0, Kit.join(cut(least(), 32),
+        Kit.due("an object beyond", Kit.fault(0, Kit.join(Kit.cut(CffFont.least(), 32), Kit.bytes(0, 2, 1, 1, 3, 200, 0, 0))), 1);
+        Kit.due("offsets of four bytes, above 31 bits", Kit.fault(0, Kit.join(Kit.cut(CffFont.least(), 32),
                 Kit.bytes(0, 1, 4, 0, 0, 0, 1, 255, 255, 255, 255, 0, 0, 0, 0))), 1);
-        Kit.due("65535 strings", Kit.fault(0, Kit.join(cut(least(), 32), Kit.bytes(255, 255, 1), new byte[1])), 2);
-        Kit.due("65535 strings", Kit.fault(0, Kit.join(cut(least(), 32), Kit.bytes(255, 255, 1, 1, 1, 1))), 1);
+        Kit.due("65535 strings", Kit.fault(0, Kit.join(Kit.cut(CffFont.least(), 32), Kit.bytes(255, 255, 1), new byte[1])), 2);
+        Kit.due("65535 strings", Kit.fault(0, Kit.join(Kit.cut(CffFont.least(), 32), Kit.bytes(255, 255, 1, 1, 1, 1))), 1);
         List<byte[]> many = new ArrayList<>();
         for (int i = 0; i < 1300; i++) {
             many.add(new byte[0]);
@@ -192,7 +153,7 @@ public final class CffReadTest {
         CffFont font = CffFont.of("endchar");
         CharstringPress press = new CharstringPress();
         int lettersAt = 34 + 3 + 1301;
-        byte[] head = cut(with(with(least(), 18, lettersAt >> 8), 19, lettersAt), 34);
+        byte[] head = Kit.cut(Kit.with(Kit.with(CffFont.least(), 18, lettersAt >> 8), 19, lettersAt), 34);
         Kit.due("1300 empty globals", Kit.read(press, 0, Kit.join(head, CffFont.index(many, 1),
                 CffFont.index(font.letters, 1))), 0);
         Kit.due("are counted", press.font(3), 1300);
@@ -200,32 +161,32 @@ public final class CffReadTest {
     }
 
     private static void topFaults() {
-        Kit.due("no 17", Kit.fault(0, font(Kit.bytes(139, 16))), 2);
-        Kit.due("an empty top", Kit.fault(0, font(Kit.bytes())), 2);
-        Kit.due("17 without operand", Kit.fault(0, font(Kit.bytes(17))), 2);
-        Kit.due("17 with two", Kit.fault(0, font(Kit.bytes(160, 160, 17))), 2);
-        Kit.due("17 by a short one", Kit.fault(0, font(Kit.bytes(139 + 21, 17))), 0);
-        Kit.due("17 by a real", Kit.fault(0, font(Kit.bytes(30, 0x2f, 17))), 2);
-        Kit.due("17 by a real and a right one", Kit.fault(0, font(Kit.bytes(30, 0x2f, 139 + 24, 17))), 2);
-        Kit.due("17 by a right one and a real", Kit.fault(0, font(Kit.bytes(139 + 24, 30, 0x2f, 17))), 2);
-        Kit.due("a real at the end", Kit.fault(0, font(Kit.bytes(139 + 23, 17, 30, 0x2f))), 2);
-        Kit.due("17 told wrong, then right", Kit.fault(0, fontWith(139, 139, 17)), 0);
-        Kit.due("17 told right, then wrong", Kit.fault(0, font(Kit.bytes(139 + 22, 17, 17))), 2);
-        Kit.due("17 told twice: the last", Kit.fault(0, fontWith(28, 39, 15, 17)), 0);
-        Kit.due("kind 2", Kit.fault(0, fontWith(141, 12, 6)), 0);
-        Kit.due("kind 1", Kit.fault(0, fontWith(140, 12, 6)), 2);
-        Kit.due("kind without operand", Kit.fault(0, fontWith(12, 6)), 2);
-        Kit.due("kind by two", Kit.fault(0, fontWith(141, 141, 12, 6)), 2);
-        Kit.due("kind 1, then 2", Kit.fault(0, fontWith(140, 12, 6, 141, 12, 6)), 0);
-        Kit.due("18 by one", Kit.fault(0, fontWith(139, 18)), 2);
-        Kit.due("18 by three", Kit.fault(0, fontWith(139, 139, 139, 18)), 2);
-        Kit.due("18 by a real", Kit.fault(0, fontWith(139, 30, 0xff, 18)), 2);
-        Kit.due("others of no matter", Kit.fault(0, fontWith(0, 12, 255, 139, 19, 139, 139, 20, 21, 6)), 0);
-        Kit.due("operands at the end", Kit.fault(0, font(Kit.bytes(139 + 22, 17, 139))), 2);
-        Kit.due("12 at the end", Kit.fault(0, font(Kit.bytes(139 + 22, 17, 12))), 2);
-        Kit.due("without PRIVATE", Kit.fault(0, fontWith()), 0);
+        Kit.due("no 17", Kit.fault(0, CffFont.withTop(Kit.bytes(139, 16))), 2);
+        Kit.due("an empty top", Kit.fault(0, CffFont.withTop(Kit.bytes())), 2);
+        Kit.due("17 without operand", Kit.fault(0, CffFont.withTop(Kit.bytes(17))), 2);
+        Kit.due("17 with two", Kit.fault(0, CffFont.withTop(Kit.bytes(160, 160, 17))), 2);
+        Kit.due("17 by a short one", Kit.fault(0, CffFont.withTop(Kit.bytes(139 + 21, 17))), 0);
+        Kit.due("17 by a real", Kit.fault(0, CffFont.withTop(Kit.bytes(30, 0x2f, 17))), 2);
+        Kit.due("17 by a real and a right one", Kit.fault(0, CffFont.withTop(Kit.bytes(30, 0x2f, 139 + 24, 17))), 2);
+        Kit.due("17 by a right one and a real", Kit.fault(0, CffFont.withTop(Kit.bytes(139 + 24, 30, 0x2f, 17))), 2);
+        Kit.due("a real at the end", Kit.fault(0, CffFont.withTop(Kit.bytes(139 + 23, 17, 30, 0x2f))), 2);
+        Kit.due("17 told wrong, then right", Kit.fault(0, CffFont.withAhead(139, 139, 17)), 0);
+        Kit.due("17 told right, then wrong", Kit.fault(0, CffFont.withTop(Kit.bytes(139 + 22, 17, 17))), 2);
+        Kit.due("17 told twice: the last", Kit.fault(0, CffFont.withAhead(28, 39, 15, 17)), 0);
+        Kit.due("kind 2", Kit.fault(0, CffFont.withAhead(141, 12, 6)), 0);
+        Kit.due("kind 1", Kit.fault(0, CffFont.withAhead(140, 12, 6)), 2);
+        Kit.due("kind without operand", Kit.fault(0, CffFont.withAhead(12, 6)), 2);
+        Kit.due("kind by two", Kit.fault(0, CffFont.withAhead(141, 141, 12, 6)), 2);
+        Kit.due("kind 1, then 2", Kit.fault(0, CffFont.withAhead(140, 12, 6, 141, 12, 6)), 0);
+        Kit.due("18 by one", Kit.fault(0, CffFont.withAhead(139, 18)), 2);
+        Kit.due("18 by three", Kit.fault(0, CffFont.withAhead(139, 139, 139, 18)), 2);
+        Kit.due("18 by a real", Kit.fault(0, CffFont.withAhead(139, 30, 0xff, 18)), 2);
+        Kit.due("others of no matter", Kit.fault(0, CffFont.withAhead(0, 12, 255, 139, 19, 139, 139, 20, 21, 6)), 0);
+        Kit.due("operands at the end", Kit.fault(0, CffFont.withTop(Kit.bytes(139 + 22, 17, 139))), 2);
+        Kit.due("12 at the end", Kit.fault(0, CffFont.withTop(Kit.bytes(139 + 22, 17, 12))), 2);
+        Kit.due("without PRIVATE", Kit.fault(0, CffFont.withAhead()), 0);
         CharstringPress press = new CharstringPress();
-        Kit.read(press, 0, fontWith(139 + 5, 20, 139 + 7, 21));
+        Kit.read(press, 0, CffFont.withAhead(139 + 5, 20, 139 + 7, 21));
         Kit.due("20 in the top is none", press.font(4), 0);
         Kit.due("21 in the top is none", press.font(5), 0);
         Kit.due("no locals", press.font(2), 0);
@@ -234,34 +195,34 @@ public final class CffReadTest {
     private static void operands() {
         int[] reserved = {22, 23, 24, 25, 26, 27, 31, 255};
         for (int b : reserved) {
-            Kit.due("byte " + b + " in a DICT", Kit.fault(0, fontWith(b)), 2);
-            Kit.due("byte " + b + " in a DICT", Kit.fault(0, fontWith(b, 0, 0, 0, 0, 0)), 2);
+            Kit.due("byte " + b + " in a DICT", Kit.fault(0, CffFont.withAhead(b)), 2);
+            Kit.due("byte " + b + " in a DICT", Kit.fault(0, CffFont.withAhead(b, 0, 0, 0, 0, 0)), 2);
         }
-        Kit.due("a number beyond the DICT", Kit.fault(0, font(Kit.bytes(161, 17, 28, 0))), 2);
-        Kit.due("a number beyond the DICT", Kit.fault(0, font(Kit.bytes(161, 17, 29))), 2);
-        Kit.due("a number beyond the DICT", Kit.fault(0, font(Kit.bytes(161, 17, 247))), 2);
-        Kit.due("a real beyond the DICT", Kit.fault(0, font(Kit.bytes(161, 17, 30, 0x12))), 2);
-        Kit.due("a real", Kit.fault(0, fontWith(30, 0x12, 0x3f, 16)), 0);
-        Kit.due("a real that ends in an upper half", Kit.fault(0, fontWith(30, 0x12, 0xf0, 16)), 0);
-        Kit.due("13 behind its end", Kit.fault(0, fontWith(30, 0x12, 0xfd, 16)), 0);
-        Kit.due("a real with 13, upper", Kit.fault(0, fontWith(30, 0x12, 0xd3, 0x0f, 16)), 2);
-        Kit.due("a real with 13, lower", Kit.fault(0, fontWith(30, 0x1d, 0x0f, 16)), 2);
-        Kit.due("a real with all others", Kit.fault(0, fontWith(30, 0xab, 0xce, 0x0f, 16)), 0);
+        Kit.due("a number beyond the DICT", Kit.fault(0, CffFont.withTop(Kit.bytes(161, 17, 28, 0))), 2);
+        Kit.due("a number beyond the DICT", Kit.fault(0, CffFont.withTop(Kit.bytes(161, 17, 29))), 2);
+        Kit.due("a number beyond the DICT", Kit.fault(0, CffFont.withTop(Kit.bytes(161, 17, 247))), 2);
+        Kit.due("a real beyond the DICT", Kit.fault(0, CffFont.withTop(Kit.bytes(161, 17, 30, 0x12))), 2);
+        Kit.due("a real", Kit.fault(0, CffFont.withAhead(30, 0x12, 0x3f, 16)), 0);
+        Kit.due("a real that ends in an upper half", Kit.fault(0, CffFont.withAhead(30, 0x12, 0xf0, 16)), 0);
+        Kit.due("13 behind its end", Kit.fault(0, CffFont.withAhead(30, 0x12, 0xfd, 16)), 0);
+        Kit.due("a real with 13, upper", Kit.fault(0, CffFont.withAhead(30, 0x12, 0xd3, 0x0f, 16)), 2);
+        Kit.due("a real with 13, lower", Kit.fault(0, CffFont.withAhead(30, 0x1d, 0x0f, 16)), 2);
+        Kit.due("a real with all others", Kit.fault(0, CffFont.withAhead(30, 0xab, 0xce, 0x0f, 16)), 0);
         int[] most = new int[49];
         java.util.Arrays.fill(most, 139);
         most[48] = 16;
-        Kit.due("48 operands", Kit.fault(0, fontWith(most)), 0);
+        Kit.due("48 operands", Kit.fault(0, CffFont.withAhead(most)), 0);
         int[] more = new int[50];
         java.util.Arrays.fill(more, 139);
         more[49] = 16;
-        Kit.due("49 operands", Kit.fault(0, fontWith(more)), 2);
+        Kit.due("49 operands", Kit.fault(0, CffFont.withAhead(more)), 2);
         int[] reals = new int[99];
         for (int i = 0; i < 98; i += 2) {
             reals[i] = 30;
             reals[i + 1] = 0xff;
         }
-        Kit.due("49 reals", Kit.fault(0, fontWith(reals)), 2);
-        Kit.due("48 reals", Kit.fault(0, fontWith(java.util.Arrays.copyOfRange(reals, 2, 99))), 0);
+        Kit.due("49 reals", Kit.fault(0, CffFont.withAhead(reals)), 2);
+        Kit.due("48 reals", Kit.fault(0, CffFont.withAhead(java.util.Arrays.copyOfRange(reals, 2, 99))), 0);
         widths("32", 32 - 139, 32);
         widths("246", 107, 246);
         widths("247", 108, 247, 0);
@@ -281,7 +242,7 @@ public final class CffReadTest {
         for (int i = 0; i < bytes.length; i++) {
             bytes[i] = told[i] & 255;
         }
-        Kit.due("operand " + name, Kit.read(press, 0, fontWithPrivate(bytes.length, bytes)), 0);
+        Kit.due("operand " + name, Kit.read(press, 0, CffFont.withPrivate(bytes.length, bytes)), 0);
         Kit.due("default by " + name, press.font(4), want);
         Kit.due("nominal by " + name, press.font(5), want);
     }
@@ -291,72 +252,72 @@ public final class CffReadTest {
         for (int i = 0; i < 40; i++) {
             forty.add(Kit.bytes(14));
         }
-        byte[] head = cut(fontWith(), 25);
+        byte[] head = Kit.cut(CffFont.withAhead(), 25);
         Kit.due("40 letters", Kit.fault(0, Kit.join(head, CffFont.index(forty, 1))), 0);
         forty.add(Kit.bytes(14));
         Kit.due("41 letters", Kit.fault(0, Kit.join(head, CffFont.index(forty, 1))), 2);
         Kit.due("41 letters, asked ahead of the rest", Kit.fault(0, Kit.join(head, Kit.bytes(0, 41))), 2);
         Kit.due("no letters", Kit.fault(0, Kit.join(head, Kit.bytes(0, 0))), 2);
         Kit.due("half a count", Kit.fault(0, Kit.join(head, Kit.bytes(0))), 1);
-        Kit.due("letters below 0", Kit.fault(0, font(Kit.bytes(29, 255, 255, 255, 255, 17))), 1);
-        Kit.due("letters far below 0", Kit.fault(0, font(Kit.bytes(29, 128, 0, 0, 0, 17))), 1);
-        Kit.due("letters beyond", Kit.fault(0, font(Kit.bytes(28, 39, 15, 17))), 1);
-        Kit.due("letters far beyond", Kit.fault(0, font(Kit.bytes(29, 127, 255, 255, 255, 17))), 1);
-        Kit.due("letters ahead, not as told", Kit.fault(0, font(Kit.bytes(139, 17))), 2);
+        Kit.due("letters below 0", Kit.fault(0, CffFont.withTop(Kit.bytes(29, 255, 255, 255, 255, 17))), 1);
+        Kit.due("letters far below 0", Kit.fault(0, CffFont.withTop(Kit.bytes(29, 128, 0, 0, 0, 17))), 1);
+        Kit.due("letters beyond", Kit.fault(0, CffFont.withTop(Kit.bytes(28, 39, 15, 17))), 1);
+        Kit.due("letters far beyond", Kit.fault(0, CffFont.withTop(Kit.bytes(29, 127, 255, 255, 255, 17))), 1);
+        Kit.due("letters ahead, not as told", Kit.fault(0, CffFont.withTop(Kit.bytes(139, 17))), 2);
     }
 
     private static void privateFaults() {
-        Kit.due("empty", Kit.fault(0, fontWithPrivate(0)), 0);
-        Kit.due("one byte beyond", Kit.fault(0, fontWithPrivate(1)), 1);
-        Kit.due("a fault ahead of the tape's end", Kit.fault(0, fontWithPrivate(3, 22)), 2);
-        Kit.due("the tape's end", Kit.fault(0, fontWithPrivate(3, 139, 20)), 1);
-        Kit.due("a number beyond the DICT", Kit.fault(0, fontWithPrivate(2, 28, 0, 0, 20)), 2);
-        Kit.due("a number beyond DICT and tape", Kit.fault(0, fontWithPrivate(2, 28, 0)), 1);
-        Kit.due("operands at its end", Kit.fault(0, fontWithPrivate(1, 139, 20)), 2);
-        Kit.due("default by two", Kit.fault(0, fontWithPrivate(3, 139, 139, 20)), 2);
-        Kit.due("default by none", Kit.fault(0, fontWithPrivate(1, 20)), 2);
-        Kit.due("nominal by a real", Kit.fault(0, fontWithPrivate(3, 30, 0x1f, 21)), 2);
-        Kit.due("locals by two", Kit.fault(0, fontWithPrivate(3, 142, 139, 19, 0, 0)), 2);
-        Kit.due("locals by one", Kit.fault(0, fontWithPrivate(2, 141, 19, 0, 0)), 0);
-        Kit.due("default told wrong, then right", Kit.fault(0, fontWithPrivate(3, 20, 139, 20)), 0);
-        Kit.due("17 in it is none", Kit.fault(0, fontWithPrivate(2, 17, 18)), 0);
-        Kit.due("fewer than no bytes", Kit.fault(0, fontWithPrivate(-1)), 2);
+        Kit.due("empty", Kit.fault(0, CffFont.withPrivate(0)), 0);
+        Kit.due("one byte beyond", Kit.fault(0, CffFont.withPrivate(1)), 1);
+        Kit.due("a fault ahead of the tape's end", Kit.fault(0, CffFont.withPrivate(3, 22)), 2);
+        Kit.due("the tape's end", Kit.fault(0, CffFont.withPrivate(3, 139, 20)), 1);
+        Kit.due("a number beyond the DICT", Kit.fault(0, CffFont.withPrivate(2, 28, 0, 0, 20)), 2);
+        Kit.due("a number beyond DICT and tape", Kit.fault(0, CffFont.withPrivate(2, 28, 0)), 1);
+        Kit.due("operands at its end", Kit.fault(0, CffFont.withPrivate(1, 139, 20)), 2);
+        Kit.due("default by two", Kit.fault(0, CffFont.withPrivate(3, 139, 139, 20)), 2);
+        Kit.due("default by none", Kit.fault(0, CffFont.withPrivate(1, 20)), 2);
+        Kit.due("nominal by a real", Kit.fault(0, CffFont.withPrivate(3, 30, 0x1f, 21)), 2);
+        Kit.due("locals by two", Kit.fault(0, CffFont.withPrivate(3, 142, 139, 19, 0, 0)), 2);
+        Kit.due("locals by one", Kit.fault(0, CffFont.withPrivate(2, 141, 19, 0, 0)), 0);
+        Kit.due("default told wrong, then right", Kit.fault(0, CffFont.withPrivate(3, 20, 139, 20)), 0);
+        Kit.due("17 in it is none", Kit.fault(0, CffFont.withPrivate(2, 17, 18)), 0);
+        Kit.due("fewer than no bytes", Kit.fault(0, CffFont.withPrivate(-1)), 2);
         byte[] top = Kit.join(CffFont.long29(36), Kit.bytes(17), CffFont.long29(0), CffFont.long29(43), Kit.bytes(18));
-        Kit.due("a place beyond", Kit.fault(0, font(top)), 1);
+        Kit.due("a place beyond", Kit.fault(0, CffFont.withTop(top)), 1);
         top = Kit.join(CffFont.long29(36), Kit.bytes(17), CffFont.long29(0), CffFont.long29(-1), Kit.bytes(18));
-        Kit.due("a place below 0", Kit.fault(0, font(top)), 1);
+        Kit.due("a place below 0", Kit.fault(0, CffFont.withTop(top)), 1);
         top = Kit.join(CffFont.long29(36), Kit.bytes(17), CffFont.long29(0), CffFont.long29(0), Kit.bytes(18));
-        Kit.due("none at the first place", Kit.fault(0, font(top)), 0);
+        Kit.due("none at the first place", Kit.fault(0, CffFont.withTop(top)), 0);
         top = Kit.join(CffFont.long29(36), Kit.bytes(17), CffFont.long29(5), CffFont.long29(9999), Kit.bytes(18));
-        Kit.due("a place far beyond", Kit.fault(0, font(top)), 1);
+        Kit.due("a place far beyond", Kit.fault(0, CffFont.withTop(top)), 1);
         top = Kit.join(CffFont.long29(36), Kit.bytes(17), CffFont.long29(Integer.MAX_VALUE), CffFont.long29(41),
                 Kit.bytes(18));
-        Kit.due("far too many bytes", Kit.fault(0, font(top)), 1);
+        Kit.due("far too many bytes", Kit.fault(0, CffFont.withTop(top)), 1);
     }
 
     private static void locals() {
         CharstringPress press = new CharstringPress();
-        Kit.due("two locals", Kit.read(press, 0, fontWithPrivate(2, 141, 19, 0, 2, 1, 1, 2, 4, 11, 140, 11)), 0);
+        Kit.due("two locals", Kit.read(press, 0, CffFont.withPrivate(2, 141, 19, 0, 2, 1, 1, 2, 4, 11, 140, 11)), 0);
         Kit.due("are there", press.font(2), 2);
         Kit.due("local 0", Kit.code(press, 1, 0), "0b");
         Kit.due("local 1", Kit.code(press, 1, 1), "8c0b");
-        Kit.due("no locals", Kit.fault(0, fontWithPrivate(2, 141, 19, 0, 0)), 0);
-        Kit.due("locals beyond", Kit.fault(0, fontWithPrivate(2, 142, 19, 0, 0)), 1);
-        Kit.due("locals cut", Kit.fault(0, fontWithPrivate(2, 141, 19, 0, 1, 1, 1, 3, 11)), 1);
-        Kit.due("locals not as told", Kit.fault(0, fontWithPrivate(2, 141, 19, 0, 1, 1, 2, 3, 11)), 2);
-        Kit.due("locals below 0", Kit.fault(0, fontWithPrivate(3, 251, 0, 19)), 1);
-        Kit.due("locals ahead of PRIVATE", Kit.fault(0, fontWithPrivate(2, 139 - 6, 19)), 0);
-        Kit.due("locals far beyond", Kit.fault(0, fontWithPrivate(6, 29, 127, 255, 255, 255, 19)), 1);
+        Kit.due("no locals", Kit.fault(0, CffFont.withPrivate(2, 141, 19, 0, 0)), 0);
+        Kit.due("locals beyond", Kit.fault(0, CffFont.withPrivate(2, 142, 19, 0, 0)), 1);
+        Kit.due("locals cut", Kit.fault(0, CffFont.withPrivate(2, 141, 19, 0, 1, 1, 1, 3, 11)), 1);
+        Kit.due("locals not as told", Kit.fault(0, CffFont.withPrivate(2, 141, 19, 0, 1, 1, 2, 3, 11)), 2);
+        Kit.due("locals below 0", Kit.fault(0, CffFont.withPrivate(3, 251, 0, 19)), 1);
+        Kit.due("locals ahead of PRIVATE", Kit.fault(0, CffFont.withPrivate(2, 139 - 6, 19)), 0);
+        Kit.due("locals far beyond", Kit.fault(0, CffFont.withPrivate(6, 29, 127, 255, 255, 255, 19)), 1);
     }
 
     private static void order() {
         byte[] top = Kit.bytes(139, 17, 139, 28, 39, 15, 18);
-        Kit.due("letters ahead of PRIVATE", Kit.fault(0, font(top)), 2);
+        Kit.due("letters ahead of PRIVATE", Kit.fault(0, CffFont.withTop(top)), 2);
         top = Kit.bytes(28, 39, 15, 17, 138, 139, 18);
-        Kit.due("letters beyond, PRIVATE not as told", Kit.fault(0, font(top)), 1);
+        Kit.due("letters beyond, PRIVATE not as told", Kit.fault(0, CffFont.withTop(top)), 1);
         top = Kit.bytes(28, 39, 15, 17, 139, 18);
-        Kit.due("the top ahead of the letters", Kit.fault(0, font(top)), 2);
-        Kit.due("the INDEXES ahead of the top", Kit.fault(0, cut(font(Kit.bytes(139, 16)), 20)), 1);
-        Kit.due("PRIVATE ahead of the locals", Kit.fault(0, fontWithPrivate(6, 28, 39, 15, 19, 139, 139)), 2);
+        Kit.due("the top ahead of the letters", Kit.fault(0, CffFont.withTop(top)), 2);
+        Kit.due("the INDEXES ahead of the top", Kit.fault(0, Kit.cut(CffFont.withTop(Kit.bytes(139, 16)), 20)), 1);
+        Kit.due("PRIVATE ahead of the locals", Kit.fault(0, CffFont.withPrivate(6, 28, 39, 15, 19, 139, 139)), 2);
     }
 }

@@ -1,3 +1,4 @@
+import java.util.Arrays;
 import java.util.Random;
 
 /** What the tests share: answers that are due, bytes onto a tape, an outline as text. */
@@ -5,22 +6,33 @@ final class Kit {
     private static int wrong = 0;
     private static int asked = 0;
 
+    /** The document's sentence that the answers are due by; empty where none was told. */
+    private static String sentence = "";
+
     private Kit() {
+    }
+
+    /** What is due behind this is due by that sentence of the document, and is told with it. */
+    static void sentence(String text) {
+        sentence = text;
     }
 
     static void due(String what, long got, long want) {
         asked++;
         if (got != want) {
-            wrong++;
-            System.out.println(what + " answered " + got + ", due is " + want);
+            wrong(what + " answered " + got + ", due is " + want);
         }
+    }
+
+    private static void wrong(String told) {
+        wrong++;
+        System.out.println(sentence.isEmpty() ? told : told + "\n  by: " + sentence);
     }
 
     static void due(String what, String got, String want) {
         asked++;
         if (!got.equals(want)) {
-            wrong++;
-            System.out.println(what + " answered\n  " + got + "\ndue is\n  " + want);
+            wrong(what + " answered\n  " + got + "\ndue is\n  " + want);
         }
     }
 
@@ -62,12 +74,14 @@ final class Kit {
         return all;
     }
 
-    static byte[] times(int n, byte[] row) {
-        byte[] all = new byte[0];
-        for (int i = 0; i < n; i++) {
-            all = join(all, row);
-        }
-        return all;
+    static byte[] with(byte[] row, int at, int value) {
+        byte[] changed = row.clone();
+        changed[at] = (byte) value;
+        return changed;
+    }
+
+    static byte[] cut(byte[] row, int n) {
+        return Arrays.copyOf(row, n);
     }
 
     static byte[] random(Random source, int size) {
@@ -151,6 +165,39 @@ final class Kit {
         long whole = Math.floorDiv(number, 65536L);
         long rest = Math.floorMod(number, 65536L);
         return rest == 0 ? String.valueOf(whole) : whole + "+" + rest;
+    }
+
+    /** All that can be asked without a change: what a refused call must leave as it was. */
+    static String state(CharstringPress press) {
+        StringBuilder text = new StringBuilder("font");
+        for (int what = 0; what <= 5; what++) {
+            text.append(' ').append(press.font(what));
+        }
+        for (int sort = 0; sort <= 2; sort++) {
+            for (int k = 0; k < 3; k++) {
+                text.append(" | ").append(code(press, sort, k));
+            }
+        }
+        text.append(" drawn ").append(came(press, 0)).append(' ').append(outline(press));
+        text.append(" tape ").append(press.count(0)).append(" out ").append(press.count(1)).append(' ').append(out(press));
+        return text.toString();
+    }
+
+    /** OUT's bytes. */
+    static String out(CharstringPress press) {
+        StringBuilder text = new StringBuilder();
+        for (int i = 0; i < press.count(1); i++) {
+            text.append(String.format("%02x", press.octet(i)));
+        }
+        return text.toString();
+    }
+
+    /** The TAPE's bytes, which go by way of OUT: the TAPE is empty then. */
+    static String tape(CharstringPress press) {
+        press.cipher(4711, 0);
+        press.back();
+        press.plain(4711, 0);
+        return out(press);
     }
 
     /** What draw() came to: fault, PARTS, STEPS, HINTS, bytes, WIDTH. */

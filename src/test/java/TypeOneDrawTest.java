@@ -22,33 +22,12 @@ public final class TypeOneDrawTest {
         Kit.close("TypeOneDrawTest");
     }
 
-    /** The usual locals: the flex's three, and the one that changes hints. */
-    private static TypeOneFont font() {
-        TypeOneFont font = new TypeOneFont().words("/Subrs 20 array\n");
-        font.local(0, "3 0 callothersubr pop pop setcurrentpoint return").local(1, "0 1 callothersubr return");
-        font.local(2, "0 2 callothersubr return").local(3, "return").local(4, "1 3 callothersubr pop callsubr return");
-        font.local(5, "7 hmoveto").local(6, "8 hmoveto endchar").local(7, "7 callsubr").local(8, "");
-        for (int i = 10; i < 19; i++) {
-            font.local(i, (i + 1) + " callsubr return");
-        }
-        return font.local(19, "20 callsubr return").begin();
-    }
-
-    private static CharstringPress press(String program) {
-        CharstringPress press = new CharstringPress();
-        Kit.due("read", Kit.read(press, 1, font().letter("a", program).words("end").build()), 0);
-        return press;
-    }
-
     private static void outline(String program, String want) {
-        CharstringPress press = press(program + " endchar");
-        int fault = press.draw(0, 400);
-        Kit.due(program, (fault == 0 ? "" : fault + ": ") + Kit.outline(press), want);
+        Kit.due(program, TypeOneRun.outline(program + " endchar"), want);
     }
 
     private static void came(String program, String want) {
-        CharstringPress press = press(program);
-        Kit.due(program, Kit.came(press, press.draw(0, 400)), want);
+        Kit.due(program, TypeOneRun.came(program), want);
     }
 
     private static void ordinary() {
@@ -188,7 +167,7 @@ public final class TypeOneDrawTest {
         int[] wanted = {0, 0, 0, 1, 1, 1, 1, 2, 2, 2, 2, 2, 2, 4, 4, 4, 6, 6, 6};
         for (int i = 0; i < names.length; i++) {
             for (int n = 0; n <= 12; n++) {
-                CharstringPress press = press("1 ".repeat(n) + names[i]);
+                CharstringPress press = TypeOneRun.of("1 ".repeat(n) + names[i]);
                 int can = names[i].equals("endchar") ? 0 : 7;
                 Kit.due(names[i] + " of " + n, press.draw(0, 9), n == wanted[i] ? can : 2);
                 Kit.due("its steps", press.drawn(1), n == wanted[i] ? 1 : 0);
@@ -216,7 +195,7 @@ public final class TypeOneDrawTest {
     }
 
     private static void limits() {
-        CharstringPress press = press("1 hmoveto 2 hlineto closepath " + FLEX + " 1 2 3 3 0 callothersubr endchar");
+        CharstringPress press = TypeOneRun.of("1 hmoveto 2 hlineto closepath " + FLEX + " 1 2 3 3 0 callothersubr endchar");
         for (int limit = 0; limit < 5; limit++) {
             Kit.due("limit " + limit, press.draw(0, limit), 6);
             Kit.due("parts", press.drawn(0), limit);
