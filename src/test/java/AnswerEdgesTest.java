@@ -27,6 +27,7 @@ public final class AnswerEdgesTest {
         widthOfNone();
         parts();
         points();
+        toTheLastCall();
         Kit.close("AnswerEdgesTest");
     }
 
@@ -357,5 +358,27 @@ public final class AnswerEdgesTest {
         Kit.due("way 2", press.at(0, 0, 2), 0);
         press.draw(0, 2);
         Kit.due("the curve is not there", press.at(2, 0, 0), 0);
+    }
+
+    /** Fonts of both families by turns, up to the 512th call. */
+    private static void toTheLastCall() {
+        Kit.sentence("An object is used for at most 512 calls after it has been made");
+        CharstringPress press = new CharstringPress();
+        int calls = 0;
+        byte[][] fonts = {CffFont.of("1 2 rmoveto 3 hlineto endchar").widths(300, 600).build(),
+            TypeOneFont.of("0 9 hsbw 1 hlineto endchar").build()};
+        for (int turn = 0; calls + (fonts[turn % 2].length + 19) / 20 + 8 <= 512; turn++) {
+            byte[] font = fonts[turn % 2];
+            Kit.feed(press, font);
+            Kit.due("read at turn " + turn, press.read(turn % 2), 0);
+            Kit.due("draw at turn " + turn, press.draw(0, 400), 0);
+            Kit.due("parts", press.drawn(0), turn % 2 == 0 ? 3 : 1);
+            Kit.due("x of the first", press.at(0, 0, 0), 65536);
+            Kit.due("width", press.width(), (turn % 2 == 0 ? 300 : 9) * 65536L);
+            calls += (font.length + 19) / 20 + 6;
+        }
+        for (; calls < 512; calls++) {
+            Kit.due("call " + calls, press.count(0), 0);
+        }
     }
 }

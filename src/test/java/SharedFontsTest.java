@@ -11,6 +11,9 @@ public final class SharedFontsTest {
         sums();
         flexes();
         readFaults();
+        typeOneLetters();
+        typeOneByDigits();
+        typeOneReadFaults();
         Kit.close("SharedFontsTest");
     }
 
@@ -105,6 +108,60 @@ public final class SharedFontsTest {
         int[] due = {0, 1, 2, 2, 1, 2, 0, 0, 2, 2, 2, 0};
         for (int i = 0; i < fonts.length; i++) {
             Kit.due("font " + i, Kit.fault(0, hex(fonts[i])), due[i]);
+        }
+    }
+
+    private static void typeOneLetters() {
+        TypeOneFont font = new TypeOneFont().words("/Subrs 4 array\n").local(3, "9 vmoveto return");
+        font.words("/CharStrings 16 dict dup begin\n");
+        String[] programs = {"95f8880d9fa91590069107090e", "8bef0d959f158b8c0c10908b158b8d0c108c8c158b8d0c108d8d158b8d0c10"
+                + "8e8e158b8d0c108c168b8d0c108d8a158b8d0c108e86158b8d0c10bda69f8e8b0c100c110c110c21090e",
+            "8c8d8e8f0c078f908d940c100c110c11058c8d8e8f1e8c8d8e8f1f0e", "8b8b0d928c8e0c100c110a0e",
+            "928d0c0c8b0d0c008c8d018c8d8e8f90910c020c010e", "8c0e", "0c11", "8b8d0c10", "8c8d0c06", "1c0101", "8b0a", "900a",
+            "8c8a900c10", "8c8e900c10", "8c".repeat(25), "09"};
+        for (int i = 0; i < programs.length; i++) {
+            font.letter("g" + i, hex(programs[i]));
+        }
+        CharstringPress press = new CharstringPress();
+        Kit.due("read", Kit.read(press, 1, font.words("end").build()), 0);
+        String[] outlines = {"M 30 30 L 35 30 L 35 36 Z", "M 10 20 C 16 21 18 23 21 26 C 22 26 24 25 27 20 Z",
+            "L 6 6 C 6 7 8 10 12 10 C 13 10 15 13 15 17", "M 0 9", "", "", "", "", "", "", "", "", "", "", "", "Z"};
+        String[] came = {"0 parts 4 steps 6 hints 0 bytes 13 width 500", "0 parts 4 steps 23 hints 0 bytes 73 width 100",
+            "0 parts 3 steps 8 hints 0 bytes 28 width 3", "0 parts 1 steps 7 hints 0 bytes 12 width 0",
+            "2 parts 0 steps 5 hints 0 bytes 21 width 0", "2 parts 0 steps 0 hints 0 bytes 2 width 0",
+            "9 parts 0 steps 0 hints 0 bytes 2 width 0", "9 parts 0 steps 0 hints 0 bytes 4 width 0",
+            "1 parts 0 steps 0 hints 0 bytes 4 width 0", "1 parts 0 steps 0 hints 0 bytes 1 width 0",
+            "4 parts 0 steps 0 hints 0 bytes 2 width 0", "4 parts 0 steps 0 hints 0 bytes 2 width 0",
+            "9 parts 0 steps 0 hints 0 bytes 5 width 0", "2 parts 0 steps 0 hints 0 bytes 5 width 0",
+            "3 parts 0 steps 0 hints 0 bytes 25 width 0", "7 parts 1 steps 1 hints 0 bytes 1 width 0"};
+        for (int k = 0; k < outlines.length; k++) {
+            Kit.due("letter " + k, Kit.came(press, press.draw(k, 400)), "fault " + came[k]);
+            Kit.due("outline " + k, Kit.outline(press), outlines[k]);
+        }
+    }
+
+    private static void typeOneByDigits() {
+        CharstringPress press = new CharstringPress();
+        String font = "%!PS\ncurrentfile eexec\nd8054da85e5f6e8106e6d17456152c7752d061be\n4e8689954c1918b308fd16e37558cad5d5338f"
+                + "ec\n59e46dd6868cabfa0dbffbcf887617e28d8c101e\nb1a713c1d0b00d";
+        Kit.due("by digits", Kit.read(press, 1, Kit.ascii(font)), 0);
+        Kit.due("its letter", Kit.code(press, 0, 0), "8e940d0e");
+        Kit.due("no eexec", Kit.fault(1, Kit.ascii("exec eexe")), 1);
+        Kit.due("three bytes", Kit.fault(1, Kit.ascii("eexec abc")), 1);
+        Kit.due("another byte", Kit.fault(1, Kit.ascii("eexec abcdg")), 2);
+        Kit.due("five digits", Kit.fault(1, Kit.ascii("eexec abcde")), 2);
+    }
+
+    private static void typeOneReadFaults() {
+        String[] texts = {"x y", "/CharStrings 1 dict dup begin end", "/CharStrings 1 dict begin", "/CharStrings x",
+            "/lenIV 10000 N", "/Subrs 201 array ", "/Subrs 2 arry ", "/Subrs 2 array dup 2 1 RD x NP ",
+            "/Subrs 2 array dup 1 9 RD x", "dup 5 /Subrs 1 array dup x /CharStrings 0 dict dup begin /a 1 RD zz ND end",
+            "dup 5 /Subrs 1 array dup x /CharStrings 0 dict dup begin /a 1 RD z ND end",
+            "/CharStrings 0 dict dup begin /a 1 XX z", "/CharStrings 0 dict dup begin a 1 RD z",
+            "/CharStrings 0 dict dup begin /a 1 RD z"};
+        int[] due = {1, 3, 2, 2, 2, 2, 2, 2, 1, 2, 0, 2, 2, 1};
+        for (int i = 0; i < texts.length; i++) {
+            Kit.due(texts[i], Kit.fault(1, TypeOneFont.wrap(texts[i])), due[i]);
         }
     }
 }

@@ -26,6 +26,7 @@ public final class TypeOneRunEdgesTest {
         widths();
         closes();
         movesWithoutClose();
+        withoutAFifth();
         currentPoint();
         endWithoutClose();
         subroutineNumbers();
@@ -268,6 +269,17 @@ public final class TypeOneRunEdgesTest {
         outline("1 hmoveto 2 hlineto 3 vmoveto endchar", "M 1 0 L 3 0 M 3 3");
         outline("1 2 rmoveto 3 hmoveto 4 vmoveto endchar", "M 1 2 M 4 2 M 4 6");
         outline(BEGIN + "1 2 rmoveto 3 hmoveto 4 vmoveto 1 hlineto endchar", "L 5 6");
+    }
+
+    private static void withoutAFifth() {
+        Kit.sentence("vhcurveto 30, hvcurveto 31 (four; as above, without a fifth)");
+        outline("1 2 3 4 vhcurveto endchar", "C 0 1 2 4 6 4");
+        outline("1 2 3 4 hvcurveto endchar", "C 1 0 3 3 3 7");
+        int[] wrong = {0, 3, 5, 8, 9};
+        for (int n : wrong) {
+            fault("1 ".repeat(n) + "vhcurveto", 2);
+            fault("1 ".repeat(n) + "hvcurveto", 2);
+        }
     }
 
     private static void currentPoint() {
