@@ -42,6 +42,7 @@ public final class CffReadEdgesTest {
         beyondTheDict();
         ownTurn();
         order();
+        nothingIsLeft();
         Kit.close("CffReadEdgesTest");
     }
 
@@ -707,6 +708,28 @@ public final class CffReadEdgesTest {
                     }
                 }
             }
+        }
+    }
+
+    /** Fonts that are refused amid their operands, each ahead of one that is right. */
+    private static void nothingIsLeft() {
+        Kit.sentence("0, or its FAULT (the font that there was stays)");
+        CharstringPress press = new CharstringPress();
+        byte[] right = parts(p -> p.privateDict = Kit.bytes(140, 20)).build();
+        byte[][] broken = {parts(p -> p.ahead = Kit.bytes(139, 139, 22)).build(),
+            parts(p -> p.ahead = Kit.bytes(30, 0x1f, 22)).build(), parts(p -> p.ahead = Kit.join(filled(49, 139))).build(),
+            parts(p -> p.privateDict = Kit.bytes(139, 139, 22)).build(),
+            parts(p -> p.privateDict = Kit.bytes(30, 0x1f, 22)).build(),
+            parts(p -> p.privateDict = Kit.bytes(145, 20, 146, 21, 141, 19)).build(),
+            parts(p -> p.tops = CffParts.one(Kit.bytes(144, 17, 140, 12, 6))).build(),
+            parts(p -> p.globals = Kit.bytes(0, 2, 4, 0, 0, 0, 1, 0)).build()};
+        for (byte[] font : broken) {
+            Kit.due("refused", Kit.read(press, 0, font) > 0 ? 1 : 0, 1);
+            Kit.due("the next one", Kit.read(press, 0, right), 0);
+            Kit.due("has its own DEFAULT", press.font(4), 1);
+            Kit.due("no NOMINAL", press.font(5), 0);
+            Kit.due("no LOCALS", press.font(2), 0);
+            Kit.due("no GLOBALS", press.font(3), 0);
         }
     }
 }

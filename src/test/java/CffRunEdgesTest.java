@@ -321,6 +321,8 @@ public final class CffRunEdgesTest {
         String[] cut = {"#1c", "#1c00", "#f7", "#fa", "#fb", "#fe", "#ff", "#ff00", "#ff0000", "#ff000000"};
         for (String number : cut) {
             came("1 hmoveto " + number, "fault 7 parts 1 steps 1 hints 0 bytes " + (2 + number.length() / 2) + " width 300");
+            // It does not come to the PILE: 7 where that is full, too.
+            fault(FULL + number, 7);
         }
     }
 

@@ -84,6 +84,8 @@ public final class TypeOneReadEdgesTest {
                 Kit.ascii("eexec "), body)), 0);
         Kit.due("a second one is no more looked for", Kit.fault(1, Kit.join(Kit.ascii("eexec eexec "), body)), 1);
         Kit.due("as the tape's last six bytes", Kit.fault(1, Kit.ascii("zzeexec ")), 1);
+        Kit.due("a text in its cipher, without eexec", Kit.fault(1, body), 1);
+        Kit.due("a text in digits, without eexec", Kit.fault(1, Kit.ascii(Kit.hex(body))), 1);
         String[] without = {"", "eexec", "eexe", "eexecx", "exec ", "e exec ", "eexeC "};
         for (String text : without) {
             Kit.due("without: " + text, Kit.fault(1, Kit.join(Kit.ascii(text))), 1);
@@ -467,6 +469,7 @@ public final class TypeOneReadEdgesTest {
             LETTERS + "/a 5 -| 12345 ND "};
         for (String text : texts) {
             Kit.due("the text '" + text + "'", fault(text), 1);
+            Kit.due("behind a great COUNT: '" + text + "'", fault("/lenIV 9999 " + text), 1);
         }
     }
 

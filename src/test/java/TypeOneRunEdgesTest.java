@@ -144,6 +144,8 @@ public final class TypeOneRunEdgesTest {
     private static void pileIsFullByPop() {
         Kit.sentence("3 the PILE has 48 (Type 1: 24) and one comes");
         fault("7 1 9 callothersubr " + "1 ".repeat(23) + "pop", 7);
+        // Where nothing was put by, none comes.
+        came(FULL + "pop", "fault 9 parts 0 steps 0 hints 0 bytes 26 width 0");
         came("7 1 9 callothersubr " + FULL + "pop", "fault 3 parts 0 steps 1 hints 0 bytes 31 width 0");
     }
 
@@ -187,6 +189,7 @@ public final class TypeOneRunEdgesTest {
         String[] cut = {"#f7", "#fa", "#fb", "#fe", "#ff", "#ff00", "#ff0000", "#ff000000", "#0c"};
         for (String bytes : cut) {
             came("1 " + bytes, "fault 7 parts 0 steps 0 hints 0 bytes " + (1 + bytes.length() / 2) + " width 0");
+            fault(FULL + bytes, 7);
         }
     }
 
