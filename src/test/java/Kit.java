@@ -36,6 +36,11 @@ final class Kit {
         }
     }
 
+    /** How many answers have been due so far. */
+    static int asked() {
+        return asked;
+    }
+
     /** Ends a test: exit code 1 if an answer was wrong. */
     static void close(String name) {
         System.out.println(name + ": " + asked + " answers, " + wrong + " not as due");
